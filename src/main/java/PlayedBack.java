@@ -301,8 +301,9 @@ public final class PlayedBack {
         if (error != 0) {
             return wrong(error);
         }
+        int clap = play.clap();
         for (int i = 0; i < n; i++) {
-            play.giveEvening();
+            play.giveEvening(clap);
         }
         return play.takings;
     }
@@ -314,7 +315,7 @@ public final class PlayedBack {
         }
         for (int i = 0; i < n; i++) {
             play.loosen();
-            play.giveEvening();
+            play.giveEvening(play.clap());
         }
         return play.takings;
     }
@@ -1060,8 +1061,12 @@ public final class PlayedBack {
             return numbers.size == size && seen == all();
         }
 
-        void giveEvening() {
-            takings = held(takings + clapping.gives(guessed(), hands(), rises()), -MOST_TAKINGS, MOST_TAKINGS);
+        int clap() {
+            return clapping.gives(guessed(), hands(), rises());
+        }
+
+        void giveEvening(int clap) {
+            takings = held(takings + clap, -MOST_TAKINGS, MOST_TAKINGS);
             evenings++;
         }
 
@@ -1210,7 +1215,7 @@ public final class PlayedBack {
             }
         }
 
-        /** Of the readers each stops at the first byte that it can't go on with, which is the FAULT then. */
+        /** Each reader stops at the first byte that it can't go on with: that is the FAULT then. */
         private boolean readsLevel(int level, int open) {
             if (level >= INNERMOST) {
                 return readsInnermost(open);
@@ -1408,6 +1413,7 @@ public final class PlayedBack {
                 int next = handiestNext(given);
                 best.add(next);
                 given |= 1 << next;
+                // For NO_PROP there is no number to change.
                 latestWith.change(play.at(next).prop, next);
             }
             return hands;

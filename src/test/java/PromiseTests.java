@@ -744,6 +744,15 @@ public final class PromiseTests {
         due("the last alone", y.mended(2, 0, 1), 4);
         y.scene(10, 7, 1, 0);
         due("all that there are", y.mended(3, 0, 1), 7);
+        due("one alone", starts(1).mended(0, 0, 1), 1);
+        PlayedBack z = starts(3);
+        for (int i = 0; i < 3; i++) {
+            z.set(i, 6, 0);
+        }
+        z.scene(0, 3, 1, 0);
+        z.scene(10, 12, 1, 0);
+        due("one is fewer than two", z.mended(4, 1, 0), 1);
+        due("one, though the set of two is less", z.mended(4, 1, 1), 4);
     }
 
     private static PlayedBack mystery() {

@@ -332,8 +332,7 @@ public final class PlayedBack {
         if (!stands(scene) || !within(act, 0, Voices.ACTS - 1)) {
             return wrong(BEYOND);
         }
-        voices.bodies.clear();
-        return voices.speak(play.at(scene), play.at(scene).kind, act, x, 0);
+        return voices.begin(play.at(scene), act, x);
     }
 
     public int trace(int i) {
@@ -1556,8 +1555,13 @@ public final class PlayedBack {
             return i >= 0 && i < BODIES.length ? BODIES[i] : 0;
         }
 
+        int begin(Scene scene, int act, int x) {
+            bodies.clear();
+            return speak(scene, scene.kind, act, x, 0);
+        }
+
         /** An act by the BODY that is found from a KIND on upwards. */
-        int speak(Scene scene, int from, int act, int x, int depth) {
+        private int speak(Scene scene, int from, int act, int x, int depth) {
             int owner = ownerOf(act, from);
             if (owner < 0 || depth > DEEPEST) {
                 return 0;

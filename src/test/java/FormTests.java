@@ -139,7 +139,21 @@ public final class FormTests {
                     end++;
                 }
                 holds(lines[i].trim() + " is short", end - i < LONGEST_METHOD);
+                holds(lines[i].trim() + " makes nothing", makesAtFirst(lines[i]) || !makes(lines, i, end));
             }
         }
+    }
+
+    /** The room never gets anything back: rows are made when an object is, and used again. */
+    private static boolean makesAtFirst(String head) {
+        return head.matches("\\s+(public )?[A-Z]\\w*\\(.*") || head.contains("static Row full(");
+    }
+
+    private static boolean makes(String[] lines, int from, int to) {
+        boolean made = false;
+        for (int i = from; i <= to && i < lines.length; i++) {
+            made |= lines[i].matches(".*\\b(new|clone|copyOf|copyOfRange|substring|toCharArray)\\b.*");
+        }
+        return made;
     }
 }

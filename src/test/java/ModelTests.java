@@ -14,7 +14,9 @@ public final class ModelTests {
     private static final int STATE = LOW - 3;
     private static final int FULL = LOW - 4;
     private static final int KIND = LOW - 5;
+    /** What an object answers behind its 512th call is free; a step makes several, when it feeds a text. */
     private static final int CALLS = 512;
+    private static final int MOST_CALLS_A_STEP = 60;
 
     public static void main(String[] args) {
         int runs = args.length > 0 ? Integer.parseInt(args[0]) : 150;
@@ -82,10 +84,10 @@ public final class ModelTests {
         }
 
         boolean isAsDue() {
-            for (int i = 0; i < CALLS; i++) {
+            for (int i = 0; calls.size() <= CALLS - MOST_CALLS_A_STEP; i++) {
                 long[] both = i < 12 && draw(2) == 0 ? openOne() : one();
                 if (both[0] != both[1]) {
-                    System.out.println("seed " + seed + ", call " + i + ": " + calls.get(calls.size() - 1)
+                    System.out.println("seed " + seed + ", step " + i + ": " + calls.get(calls.size() - 1)
                             + " answered " + both[0] + ", due is " + both[1]);
                     return false;
                 }

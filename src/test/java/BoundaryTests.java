@@ -2,7 +2,7 @@ import java.nio.charset.StandardCharsets;
 
 /**
  * Each sentence of the document that names a boundary case: the least and the greatest, the empty and the full,
- * what wraps or is held. What stands in sentence(..) is the document's; what is refused is asked by RefusalTests.
+ * what wraps or is held. What is refused is asked by RefusalTests.
  */
 public final class BoundaryTests {
     private static final int LOW = -1000000000;
@@ -16,9 +16,7 @@ public final class BoundaryTests {
     private static final int ALL = 127;
     private static final int MOST_SCENES = 7;
 
-    private static String sentence = "";
-    private static int passed = 0;
-    private static int failed = 0;
+    private static final Page page = new Page("## Terms");
 
     public static void main(String[] args) {
         errors();
@@ -54,23 +52,19 @@ public final class BoundaryTests {
         waiting();
         counts();
         manyCalls();
-        System.out.println(passed + " passed, " + failed + " failed");
-        if (failed != 0) {
-            System.exit(1);
-        }
+        page.endAnywhere();
     }
 
-    private static void sentence(String words) {
-        sentence = words;
+    private static void sentence(String... parts) {
+        page.quotes(parts);
     }
 
     private static void due(String what, long got, long want) {
-        if (got == want) {
-            passed++;
-        } else {
-            failed++;
-            System.out.println("\"" + sentence + "\": " + what + " answered " + got + ", due is " + want);
-        }
+        page.due(what, got, want);
+    }
+
+    private static void dueRow(String what, String got, String want) {
+        page.due(what, got, want);
     }
 
     // ---- what the tests set
@@ -127,7 +121,7 @@ public final class BoundaryTests {
         for (int i = 0; i < x.count(0); i++) {
             got.append(x.given(i));
         }
-        due(what + " (" + got + " for " + want + ")", got.toString().equals(want) ? 1 : 0, 1);
+        dueRow(what, got.toString(), want);
     }
 
     private static String leastRow(PlayedBack x) {
@@ -144,10 +138,6 @@ public final class BoundaryTests {
             row.append(x.fewest(i));
         }
         return row.toString();
-    }
-
-    private static void dueRow(String what, String got, String want) {
-        due(what + " (" + got + " for " + want + ")", got.equals(want) ? 1 : 0, 1);
     }
 
     private static void feed(PlayedBack x, String text) {
@@ -179,7 +169,7 @@ public final class BoundaryTests {
     // ---- Terms, and 1: SCENES
 
     private static void errors() {
-        sentence("ERRORS are answers below -1000000000: LOW - 1 BEYOND, - 2 NONE, - 3 STATE, - 4 FULL, - 5 KIND");
+        sentence("ERRORS are answers below -1000000000: LOW is -1000000000; LOW - 1 BEYOND, LOW - 2 NONE, LOW - 3 STATE");
         PlayedBack x = starts(7);
         due("BEYOND", x.given(7), -1000000001);
         due("NONE", x.flaw(), -1000000002);
@@ -201,7 +191,7 @@ public final class BoundaryTests {
         }
         due("an eighth", x.scene(0, 0, 1, 0), FULL);
         dueOrder("all", x, "6543210");
-        sentence("a number m (0 to 9); km: 10 times the KIND, and m");
+        sentence("a number m (0 to 9)", "km: 10 times the KIND, and m");
         for (int km = 0; km <= 69; km++) {
             x.become(6, km);
             due("KIND of " + km, x.ofScene(6, 0), km / 10);
@@ -224,7 +214,7 @@ public final class BoundaryTests {
     }
 
     private static void causes() {
-        sentence("CAUSES (a set of SCENES of lesser numbers, as bits); BEYOND: also CAUSES that there are not");
+        sentence("CAUSES (a set of SCENES of lesser numbers, as bits)", "BEYOND: also CAUSES that there are not");
         for (int n = 0; n < MOST_SCENES; n++) {
             int all = (1 << n) - 1;
             due("one more than the greatest set of " + n, starts(n).scene(0, all + 1, 1, 0), BEYOND);
@@ -306,7 +296,7 @@ public final class BoundaryTests {
                 }
             }
         }
-        sentence("of which t COME: of a chain, too");
+        sentence("With n CAUSES, of which t COME");
         PlayedBack y = chain(7);
         due("all", y.comes(), ALL);
         y.become(3, 30);
@@ -316,7 +306,7 @@ public final class BoundaryTests {
     }
 
     private static void comesOfWill() {
-        sentence("COMES: one without CAUSES: WILL");
+        sentence("COMES (whether it happens): one without CAUSES: WILL");
         for (int km = 0; km <= 69; km++) {
             PlayedBack x = starts(7);
             x.become(6, km);
@@ -329,7 +319,7 @@ public final class BoundaryTests {
             willBe(x, set);
             due("by WILLS of " + set, x.comes(), set);
         }
-        sentence("COMES: with n CAUSES, of which t COME (WILL isn't asked)");
+        sentence("With n CAUSES, of which t COME");
         PlayedBack x = played(new int[] {0, 0, 0}, new int[] {0, 1, 0});
         x.set(1, 6, 0);
         due("WILL 0 of one with CAUSES", x.comes(), 3);
@@ -341,8 +331,8 @@ public final class BoundaryTests {
 
     private static void shocks() {
         String[] words = {
-            "SHOCK: SCENE: 0", "SHOCK: LETTER as the KIND above", "SHOCK: JOKE: m", "SHOCK: DEATH: 5",
-            "SHOCK: SECRET as the KIND above", "SHOCK: FARCE as the KIND above", "SHOCK: MURDER: as DEATH, and m",
+            "SHOCK (what one guesses beside): SCENE: 0", "(Others as the KIND above.)", "JOKE: m", "DEATH: 5",
+            "(Others as the KIND above.)", "(Others as the KIND above.)", "MURDER: as DEATH, and m",
         };
         for (int km = 0; km <= 69; km++) {
             sentence(words[km / 10]);
@@ -406,7 +396,7 @@ public final class BoundaryTests {
         due("the first of two", x.flaw(), 2);
         x.turn();
         due("the first of two, turned", x.flaw(), 0);
-        sentence("flaw: NONE: there is none");
+        sentence("FIRST FLAW. NONE: there is none");
         x.set(0, 6, 0);
         due("no DEATH comes", x.flaw(), NONE);
         due("no SCENES", new PlayedBack().flaw(), NONE);
@@ -448,7 +438,7 @@ public final class BoundaryTests {
     }
 
     private static void guesses() {
-        sentence("GUESS: c being how many of its CAUSES aren't given ahead of it");
+        sentence("c being how many of its CAUSES aren't given ahead of it");
         for (int n = 0; n < MOST_SCENES; n++) {
             PlayedBack x = starts(n);
             x.scene(0, (1 << n) - 1, 1, 0);
@@ -457,7 +447,7 @@ public final class BoundaryTests {
                 due("of " + n + " at place " + place, x.guess(place), (n - place) * 10);
                 sentence("GUESSED: all together");
                 due("together", x.count(1), (n - place) * 10);
-                sentence("GUESS: c being how many of its CAUSES aren't given ahead of it");
+                sentence("c being how many of its CAUSES aren't given ahead of it");
             }
         }
         sentence("SHOCK beside, if c is above 0");
@@ -468,7 +458,7 @@ public final class BoundaryTests {
         due("c 1", x.guess(1), 24);
         x.place(1, 0);
         due("c 0", x.guess(2), 0);
-        sentence("GUESS by the TEXT (held within 0 to 99), and SHOCK beside");
+        sentence("by the TEXT", "and SHOCK beside", "held within 0 to 99");
         text(x, 0, "c*50");
         due("c 0", x.guess(2), 0);
         x.place(2, 1);
@@ -498,7 +488,7 @@ public final class BoundaryTests {
     }
 
     private static void understood() {
-        sentence("UNDERSTOOD: by which place of THE ORDER (from 0) a SCENE and all that it comes of were given");
+        sentence("UNDERSTOOD: by which place of THE ORDER (from 0) a SCENE and all that it comes of (CAUSES of CAUSES, too) were given");
         PlayedBack x = chain(7);
         for (int i = 0; i < MOST_SCENES; i++) {
             due("latest first, " + i, x.understood(i), 6);
@@ -532,7 +522,7 @@ public final class BoundaryTests {
     }
 
     private static void hands() {
-        sentence("HANDS: with none it lies where it should");
+        sentence("with none it lies where it should");
         PlayedBack x = starts(3);
         due("no PROPS", x.count(2), 0);
         x.prop(1, 3, 2, 4);
@@ -540,7 +530,7 @@ public final class BoundaryTests {
         x.prop(0, 2, 1, 3);
         due("two of unlike PROPS", x.count(2), 0);
         due("no SCENES", new PlayedBack().count(2), 0);
-        sentence("HANDS: it lies where the SCENE with it that was given latest ended");
+        sentence("it lies where the SCENE with it that was given latest ended");
         PlayedBack y = starts(4);
         y.back(0);
         y.prop(0, 1, 0, 1);
@@ -576,7 +566,7 @@ public final class BoundaryTests {
     }
 
     private static void rises() {
-        sentence("RISES: in the CAST of the SCENE given there, and in that of one ahead of it in which it was killed");
+        sentence("in the CAST of the SCENE given there, and in that of one ahead of it in THE ORDER in which it was killed");
         PlayedBack x = new PlayedBack();
         x.scene(30, 0, 1, 63);
         for (int i = 1; i < MOST_SCENES; i++) {
@@ -614,7 +604,7 @@ public final class BoundaryTests {
     // ---- 2: TEXTS
 
     private static void grammar() {
-        sentence("T: A { | A }. A: B { & B }. S: P { + P, - P }. P: Q { * Q, / Q, % Q }");
+        sentence("T: A { | A }. A: B { & B }.", "S: P { + P, - P }. P: Q { * Q, / Q, % Q }");
         for (String sign : new String[] {"|", "&", "+", "-", "*", "/", "%"}) {
             due("one " + sign, text(new PlayedBack(), 0, "c" + sign + "l"), 1);
             due("24 " + sign, text(new PlayedBack(), 0, "c" + times(sign + "l", 24)), 1);
@@ -702,7 +692,7 @@ public final class BoundaryTests {
         goesOnWith("!!!!!", OPERAND, "");
         goesOnWith("(((((", "", OPERAND);
         goesOnWith("!c", "", SIGNS);
-        sentence("USES: NAMES of a USE alone");
+        sentence("NAMES c what isn't given, l LONG, m m", "NAMES g GUESSED, h HANDS, r RISES");
         for (int use = 0; use <= 1; use++) {
             String names = use == 0 ? "clm" : "ghr";
             for (int b = 'a'; b <= 'z'; b++) {
@@ -724,7 +714,7 @@ public final class BoundaryTests {
     }
 
     private static void tooEarly() {
-        sentence("FAULT: how many there are, if it ends too early");
+        sentence("how many there are, if it ends too early");
         due("none", new PlayedBack().text(0), -10);
         due("none, of the other USE", new PlayedBack().text(1), -10);
         String text = "(((((c+l*m|12<3)))))-!(1&2)";
@@ -795,7 +785,7 @@ public final class BoundaryTests {
             due(pair[0] + " / " + pair[1], worth("g/h", pair[0], pair[1], 0), quotient);
             due(pair[0] + " % " + pair[1], worth("g%h", pair[0], pair[1], 0), pair[0] % pair[1]);
         }
-        sentence("/ and % both by 0 are 0");
+        sentence("both by 0 are 0");
         for (int a : new int[] {LEAST_INT, -1, 0, 1, GREATEST_INT}) {
             due(a + " / 0", worth("g/h", a, 0, 0), 0);
             due(a + " % 0", worth("g%h", a, 0, 0), 0);
@@ -819,7 +809,7 @@ public final class BoundaryTests {
     }
 
     private static void levels() {
-        sentence("S: P { + P, - P }. P: Q { * Q, / Q, % Q }: from the left");
+        sentence("S: P { + P, - P }. P: Q { * Q, / Q, % Q }");
         due("-, -", worth("10-4-3", 0, 0, 0), 3);
         due("-, +", worth("10-4+3", 0, 0, 0), 9);
         due("/, /", worth("100/10/2", 0, 0, 0), 5);
@@ -827,7 +817,7 @@ public final class BoundaryTests {
         due("%, *", worth("17%10*2", 0, 0, 0), 14);
         due("*, %", worth("17*3%10", 0, 0, 0), 1);
         due("%, %", worth("57%10%4", 0, 0, 0), 3);
-        sentence("T of A of B of S of P of Q: each within the one ahead");
+        sentence("T: A { | A }. A: B { & B }. B: S, or S < S, S = S, S > S. S: P { + P, - P }. P: Q { * Q, / Q, % Q }");
         due("* within +", worth("2+3*4", 0, 0, 0), 14);
         due("% within -", worth("20-13%5", 0, 0, 0), 17);
         due("+ within <", worth("5<2+4", 0, 0, 0), 1);
@@ -844,38 +834,38 @@ public final class BoundaryTests {
     }
 
     private static void uses() {
-        sentence("0 GUESS, NAMES c what isn't given, l LONG, m m; with its NAMES in order as a, b, c");
+        sentence("0 GUESS, NAMES c what isn't given, l LONG, m m", "with its NAMES in order as a, b, c");
         PlayedBack x = new PlayedBack();
         text(x, 0, "c*9+l*3+m");
         due("c, l, m", x.law(0, 4, 5, 6), 57);
-        sentence("0 GUESS: held within 0 to 99");
+        sentence("held within 0 to 99");
         text(x, 0, "c");
         int[][] guesses = {{0, 0}, {-1, 0}, {99, 99}, {98, 98}, {100, 99}, {1, 1}, {LEAST_INT, 0}, {GREATEST_INT, 99}};
         for (int[] pair : guesses) {
             due("c of " + pair[0], x.law(0, pair[0], 50, 50), pair[1]);
         }
-        sentence("1 CLAP, NAMES g GUESSED, h HANDS, r RISES");
+        sentence("1 CLAP (of an EVENING), NAMES g GUESSED, h HANDS, r RISES");
         text(x, 1, "g*100+h*10+r");
         due("g, h, r", x.law(1, 4, 5, 6), 456);
-        sentence("1 CLAP: held within -999 to 999");
+        sentence("held within -999 to 999");
         text(x, 1, "r");
         int[][] claps = {{0, 0}, {998, 998}, {999, 999}, {1000, 999}, {-998, -998}, {-999, -999}, {-1000, -999}, {LEAST_INT, -999}, {GREATEST_INT, 999}};
         for (int[] pair : claps) {
             due("r of " + pair[0], x.law(1, 50, 50, pair[0]), pair[1]);
         }
-        sentence("0 GUESS: without a TEXT c*10");
+        sentence("without a TEXT c*10");
         PlayedBack y = new PlayedBack();
         for (int c = 0; c <= 9; c++) {
             due("c of " + c, y.law(0, c, 30, 9), c * 10);
         }
-        sentence("0 GUESS: held within 0 to 99; without a TEXT c*10");
+        sentence("held within 0 to 99; without a TEXT c*10");
         due("c of 10", y.law(0, 10, 0, 0), 99);
         due("c of -1", y.law(0, -1, 0, 0), 0);
-        sentence("1 CLAP: without a TEXT 100-g-h*5");
+        sentence("without a TEXT 100-g-h*5");
         due("nothing", y.law(1, 0, 0, 7), 100);
         due("g and h", y.law(1, 13, 4, 7), 67);
         due("to below 0", y.law(1, 90, 6, 7), -20);
-        sentence("1 CLAP: held within -999 to 999; without a TEXT 100-g-h*5");
+        sentence("held within -999 to 999; without a TEXT 100-g-h*5");
         due("-999", y.law(1, 1099, 0, 0), -999);
         due("-1000", y.law(1, 1100, 0, 0), -999);
         due("999", y.law(1, -899, 0, 0), 999);
@@ -895,7 +885,7 @@ public final class BoundaryTests {
     // ---- 3: what would be
 
     private static void leastGuessed() {
-        sentence("LEAST GUESSED: of all orders that with the least GUESSED; of several the first as a row");
+        sentence("LEAST GUESSED: of all orders that with the least GUESSED", "of several the first as a row");
         for (int n = 0; n <= MOST_SCENES; n++) {
             PlayedBack x = starts(n);
             due("how much of " + n, x.least(-1), 0);
@@ -993,7 +983,7 @@ public final class BoundaryTests {
     }
 
     private static void mended() {
-        sentence("MENDED: the fewest SCENES without CAUSES whose WILL is changed, so that COMES of it is v");
+        sentence("the fewest SCENES without CAUSES whose WILL is changed, so that COMES of it is v");
         for (int i = 0; i < MOST_SCENES; i++) {
             PlayedBack x = starts(7);
             due("it comes", x.mended(i, 1, 0), 0);
@@ -1011,10 +1001,10 @@ public final class BoundaryTests {
             due("a LETTER of " + n + ": all", x.mended(n, 0, 0), n);
             due("a LETTER of " + n + ": the set", x.mended(n, 0, 1), all);
             willBe(x, 0);
-            sentence("MENDED: of several the least set (as bits)");
+            sentence("of several the least set (as bits)");
             due("any", x.mended(n, 1, 0), 1);
             due("the least", x.mended(n, 1, 1), 1);
-            sentence("MENDED: the fewest SCENES without CAUSES whose WILL is changed, so that COMES of it is v");
+            sentence("the fewest SCENES without CAUSES whose WILL is changed, so that COMES of it is v");
             x.become(n, 0);
             due("a SCENE of " + n + ": all", x.mended(n, 1, 0), n);
             due("a SCENE of " + n + ": the set", x.mended(n, 1, 1), all);
@@ -1024,7 +1014,7 @@ public final class BoundaryTests {
         due("through a chain", deep.mended(6, 0, 1), 1);
         deep.become(6, 69);
         due("by none", deep.mended(6, 0, 0), NONE);
-        sentence("MENDED: of several the least set (as bits)");
+        sentence("of several the least set (as bits)");
         PlayedBack y = starts(3);
         y.scene(41, 7, 1, 0);
         willBe(y, 0);
@@ -1076,7 +1066,7 @@ public final class BoundaryTests {
         due("a JOKE of six that doesn't come", letters.sure(), 6);
         letters.turn();
         due("six, and then the JOKE", letters.sure(), 6);
-        sentence("THOUGHT: COMES of each SCENE that is given ahead of that place is as it is");
+        sentence("COMES of each SCENE that is given ahead of that place is as it is");
         PlayedBack x = played(new int[] {0, 0, 0}, new int[] {69, 1, 0}, new int[] {30, 1, 0});
         due("ahead of all", x.thought(0), 2);
         due("a DEATH", x.thought(1), 1);
@@ -1086,7 +1076,7 @@ public final class BoundaryTests {
     }
 
     private static void explained() {
-        sentence("EXPLAINED: by which KIND (0 to 6) of it, with its m, all else as it is, just those of the set COME: the least");
+        sentence("by which KIND (0 to 6) of it, with its m, all else as it is, just those of the set COME: the least");
         for (int n = 1; n < MOST_SCENES; n++) {
             for (int t = 0; t <= n; t++) {
                 for (int m = 0; m <= 9; m++) {
@@ -1107,13 +1097,13 @@ public final class BoundaryTests {
         PlayedBack x = starts(7);
         due("all come", x.explained(6, ALL), 0);
         due("128", x.explained(6, ALL + 1), BEYOND);
-        sentence("explained: NONE: by none");
+        sentence("EXPLAINED. BEYOND. NONE: by none");
         due("none come", x.explained(6, 0), NONE);
         due("all but one", x.explained(6, 63), NONE);
         willBe(x, 0);
         due("none come, so it is", x.explained(0, 0), 0);
         due("-1", x.explained(0, -1), BEYOND);
-        sentence("EXPLAINED: all else as it is");
+        sentence("all else as it is");
         PlayedBack y = chain(7);
         due("what comes of it changes, too", y.explained(1, 1), 2 + 1);
         due("just those", y.explained(1, 3), NONE);
@@ -1145,7 +1135,7 @@ public final class BoundaryTests {
         due("1", y.evenings(1), 100);
         due("200", y.evenings(200), 20100);
         due("so many", y.count(6), 201);
-        sentence("EVENINGS (0 at first; 9999 at most); STATE: EVENINGS would be above 9999");
+        sentence("EVENINGS (0 at first; 9999 at most)", "STATE: EVENINGS would be above 9999");
         PlayedBack z = new PlayedBack();
         due("at first", z.count(6), 0);
         text(z, 1, "1");
@@ -1286,13 +1276,13 @@ public final class BoundaryTests {
         int m = km % 10;
         PlayedBack x = starts(7);
         x.become(n, km);
-        sentence("JOKE: 30 opens: super.opens(x) * 3, and all above and under it");
+        sentence("JOKE: 30 opens: super.opens(x) * 3");
         due("opens of " + km, x.voice(n, 0, v), opens(kind, n, v));
-        sentence("LETTER: 20 plays: super.plays(x) - closes(1); SECRET: 50 plays: super.plays(x + 1)");
+        sentence("LETTER: 20 plays: super.plays(x) - closes(1)", "SECRET: 50 plays: super.plays(x + 1)");
         due("plays of " + km, x.voice(n, 1, v), plays(kind, n, m, v));
-        sentence("DEATH: 40 closes: -super.closes(x); MURDER: 70 closes: super.closes(x) ^ n");
+        sentence("DEATH: 40 closes: -super.closes(x)", "MURDER: 70 closes: super.closes(x) ^ n");
         due("closes of " + km, x.voice(n, 2, v), closes(kind, n, m, v));
-        sentence("FARCE: 60 tells: super.tells(x) - opens(2); MURDER: 71 tells: plays(x) - super.tells(x)");
+        sentence("FARCE: 60 tells: super.tells(x) - opens(2)", "71 tells: plays(x) - super.tells(x)");
         int both = plays(kind, n, m, v) ^ closes(kind, n, m, v);
         int[] tells = {both, both, both, both, both, both - opens(kind, n, 2), plays(kind, n, m, v) - both};
         due("tells of " + km, x.voice(n, 3, v), tells[kind]);
@@ -1475,7 +1465,7 @@ public final class BoundaryTests {
     }
 
     private static void ordersAndJudges() {
-        sentence("Numbers of a SHEET become THE ORDER: how many SCENES. STATE: they aren't all SCENES, each once");
+        sentence("Numbers of a SHEET become THE ORDER: how many SCENES", "STATE: they aren't all SCENES, each once");
         for (int n = 0; n <= MOST_SCENES; n++) {
             for (int bits = 8; bits <= 32; bits *= 2) {
                 PlayedBack x = starts(n);
@@ -1526,7 +1516,7 @@ public final class BoundaryTests {
     // ---- IMAGES, what waits, what is told
 
     private static void images() {
-        sentence("All is kept as an IMAGE, in place of one ahead: how often that was done");
+        sentence("is kept as an IMAGE, in place of one ahead: how often that was done");
         PlayedBack x = new PlayedBack();
         for (int i = 1; i <= 5; i++) {
             due("how often", x.image(), i);
@@ -1652,7 +1642,7 @@ public final class BoundaryTests {
         }
         due("a 21st", x.tell(0), FULL);
         due("20 still", x.count(9), 20);
-        sentence("The numbers that wait (none do then) are GUESSES: else 1 and the place of the first that isn't so");
+        sentence("The numbers that wait (none do then) are GUESSES at places 0, 1, ..: 0;", "else 1 and the place (from 0) of the first that isn't so");
         due("beyond the last SCENE of none", x.check(), 1);
         due("none do then", x.count(9), 0);
         due("none wait", x.check(), 0);
@@ -1678,7 +1668,7 @@ public final class BoundaryTests {
     }
 
     private static void counts() {
-        sentence("0 SCENES, 7 LONG of all together");
+        sentence("0 SCENES", "7 LONG of all together");
         PlayedBack x = new PlayedBack();
         for (int n = 0; n <= MOST_SCENES; n++) {
             due("SCENES", x.count(0), n);
@@ -1695,7 +1685,7 @@ public final class BoundaryTests {
         sentence("11 z (any number)");
         x.seed(BEYOND);
         due("like an ERROR", x.count(11), BEYOND);
-        sentence("count: BEYOND");
+        sentence("11 z (any number). BEYOND");
         due("12", x.count(12), BEYOND);
         due("-1", x.count(-1), BEYOND);
         sentence("How many acts have answered an ERROR LOW - k (k 1 .. 5); BEYOND: another k (counted, too)");

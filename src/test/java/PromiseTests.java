@@ -1,6 +1,9 @@
 import java.nio.charset.StandardCharsets;
 
-/** What each promise of the document asks, by hand: ordinary calls, the edges that it names, wrong ones. */
+/**
+ * The promises of the document, from the first to the last, sentence by sentence: ordinary calls, the edges that it
+ * names, wrong ones. TermsTests has what stands ahead of them.
+ */
 public final class PromiseTests {
     private static final int LOW = -1000000000;
     private static final int BEYOND = LOW - 1;
@@ -9,17 +12,21 @@ public final class PromiseTests {
     private static final int FULL = LOW - 4;
     private static final int KIND = LOW - 5;
 
-    private static int promise = 0;
-    private static int passed = 0;
-    private static int failed = 0;
+    private static final Page page = new Page("## Promise 1: A new object");
+    private static int promises = 0;
 
     private static void due(String what, long got, long want) {
-        if (got == want) {
-            passed++;
-        } else {
-            failed++;
-            System.out.println("promise " + promise + ": " + what + " answered " + got + ", due is " + want);
-        }
+        page.due(what, got, want);
+    }
+
+    private static void says(String words) {
+        page.says(words);
+    }
+
+    private static void promise(String title, String call) {
+        promises++;
+        page.titled("## Promise " + promises + ": " + title);
+        page.passes("`" + call + "`:");
     }
 
     /** A text comes to THE TAPE, eight bytes a call. */
@@ -46,7 +53,7 @@ public final class PromiseTests {
         return read == 1 ? x.law(use, a, b, c) : read;
     }
 
-    /** A chain of starts with km's of no CAUSES, CAST empty. */
+    /** SCENES without CAUSES, of one minute, with an empty CAST. */
     private static PlayedBack starts(int n) {
         PlayedBack x = new PlayedBack();
         for (int i = 0; i < n; i++) {
@@ -64,8 +71,7 @@ public final class PromiseTests {
     }
 
     private static void dueOrder(String what, PlayedBack x, String want) {
-        String got = orderOf(x);
-        due(what + " (" + got + " for " + want + ")", got.equals(want) ? 1 : 0, 1);
+        page.due(what, orderOf(x), want);
     }
 
     public static void main(String[] args) {
@@ -110,14 +116,14 @@ public final class PromiseTests {
         check();
         count();
         told();
-        System.out.println(passed + " passed, " + failed + " failed");
-        if (failed != 0) {
-            System.exit(1);
-        }
+        notPromised();
+        due("how many promises", promises, 41);
+        page.end("");
     }
 
     private static void newObject() {
-        promise = 1;
+        promise("A new object", "PlayedBack()");
+        says("All as at first;");
         PlayedBack x = new PlayedBack();
         int[] first = {0, 0, 0, 0, 1, 0, 0, 0, 0, 0, 0, 1};
         for (int what = 0; what < first.length; what++) {
@@ -129,8 +135,11 @@ public final class PromiseTests {
         for (int s = 0; s < 4; s++) {
             due("put(" + s + ", 0, 0)", x.put(s, 0, 0), NONE);
         }
+        due("law(0, 4, 4, 4)", x.law(0, 4, 4, 4), 40);
+        due("law(1, 4, 4, 4)", x.law(1, 4, 4, 4), 76);
         due("restore()", x.restore(), NONE);
         due("trace(0)", x.trace(0), NONE);
+        says("no SCENES.");
         due("comes()", x.comes(), 0);
         due("given(0)", x.given(0), BEYOND);
         PlayedBack other = new PlayedBack();
@@ -138,30 +147,33 @@ public final class PromiseTests {
         due("count(0) of one beside another", x.count(0), 0);
     }
 
+    // ---- scenes
+
     private static void scene() {
-        promise = 2;
+        promise("scene", "int scene(int km, int causes, int takes, int cast)");
+        says("A SCENE (km: 10 times the KIND, and m) of CAUSES, LONG, with a CAST and no PROP: its number.");
         PlayedBack x = new PlayedBack();
+        due("the first", x.scene(0, 0, 1, 0), 0);
+        due("the second", x.scene(69, 1, 30, 63), 1);
+        int[] second = {6, 9, 1, 30, 63, 4, 1};
+        for (int what = 0; what < second.length; what++) {
+            due("ofScene(1, " + what + ")", x.ofScene(1, what), second[what]);
+        }
+        due("it comes first", x.given(0), 1);
+        due("of both", x.scene(0, 3, 1, 0), 2);
+        says("BEYOND: also CAUSES that there are not.");
         due("km -1", x.scene(-1, 0, 1, 0), BEYOND);
         due("km 70", x.scene(70, 0, 1, 0), BEYOND);
-        due("causes -1", x.scene(0, -1, 1, 0), BEYOND);
-        due("causes that there are not", x.scene(0, 1, 1, 0), BEYOND);
+        due("CAUSES -1", x.scene(0, -1, 1, 0), BEYOND);
+        due("CAUSES that there are not", x.scene(0, 8, 1, 0), BEYOND);
+        due("CAUSES that there are, and one that there isn't", x.scene(0, 15, 1, 0), BEYOND);
         due("LONG 0", x.scene(0, 0, 0, 0), BEYOND);
         due("LONG 31", x.scene(0, 0, 31, 0), BEYOND);
         due("CAST -1", x.scene(0, 0, 1, -1), BEYOND);
         due("CAST 64", x.scene(0, 0, 1, 64), BEYOND);
-        due("nothing came of them", x.count(0), 0);
-        due("the first", x.scene(0, 0, 1, 0), 0);
-        due("the second", x.scene(69, 1, 30, 63), 1);
-        due("its KIND", x.ofScene(1, 0), 6);
-        due("its m", x.ofScene(1, 1), 9);
-        due("its CAUSES", x.ofScene(1, 2), 1);
-        due("its LONG", x.ofScene(1, 3), 30);
-        due("its CAST", x.ofScene(1, 4), 63);
-        due("its PROP", x.ofScene(1, 5), 4);
-        due("its WILL", x.ofScene(1, 6), 1);
-        due("it comes first", x.given(0), 1);
-        due("causes 4 of 2", x.scene(0, 4, 1, 0), BEYOND);
-        due("causes 3 of 2", x.scene(0, 3, 1, 0), 2);
+        due("nothing came of them", x.count(0), 3);
+        due("any CAUSES where there is no SCENE", new PlayedBack().scene(0, 1, 1, 0), BEYOND);
+        says("FULL.");
         for (int i = 3; i < 7; i++) {
             due("scene " + i, x.scene(0, 0, 1, 0), i);
         }
@@ -174,9 +186,24 @@ public final class PromiseTests {
     }
 
     private static void prop() {
-        promise = 3;
+        promise("prop", "int prop(int scene, int prop, int from, int to)");
+        says("The PROP of a SCENE becomes one that it TAKES and LEAVES so");
         PlayedBack x = starts(2);
+        due("none yet", x.ofScene(0, 5), 4);
+        due("PROP 3", x.prop(0, 3, 5, 0), 1);
+        due("it is there", x.ofScene(0, 5), 3);
+        due("PROP 3 elsewhere", x.prop(1, 3, 1, 5), 1);
+        due("1 ends where it takes it, at 1; 0 begins where it leaves it, at 0", x.count(2), 1);
+        due("PROP 3 once more", x.prop(1, 3, 0, 5), 1);
+        due("it lies right", x.count(2), 0);
+        says("(with 4: none, both don't matter): 1.");
+        due("none", x.prop(0, 4, -7, 99), 1);
+        due("it has none", x.ofScene(0, 5), 4);
+        x.prop(1, 3, 1, 5);
+        due("one alone finds it where it should", x.count(2), 0);
+        says("BEYOND.");
         due("no such SCENE", x.prop(2, 0, 0, 0), BEYOND);
+        due("no such SCENE, with none", x.prop(2, 4, 0, 0), BEYOND);
         due("SCENE -1", x.prop(-1, 0, 0, 0), BEYOND);
         due("PROP -1", x.prop(0, -1, 0, 0), BEYOND);
         due("PROP 5", x.prop(0, 5, 0, 0), BEYOND);
@@ -184,21 +211,13 @@ public final class PromiseTests {
         due("from 6", x.prop(0, 3, 6, 0), BEYOND);
         due("to -1", x.prop(0, 3, 0, -1), BEYOND);
         due("to 6", x.prop(0, 3, 0, 6), BEYOND);
-        due("none yet", x.ofScene(0, 5), 4);
-        due("PROP 3", x.prop(0, 3, 5, 0), 1);
-        due("it is there", x.ofScene(0, 5), 3);
-        due("PROP 3 elsewhere", x.prop(1, 3, 1, 5), 1);
-        due("begun at 0, ended at 1: backwards 1 then 0 finds it moved", x.count(2), 1);
-        due("PROP 3 once more", x.prop(1, 3, 0, 5), 1);
-        due("it lies right", x.count(2), 0);
-        due("none", x.prop(0, 4, -7, 99), 1);
-        due("it has none", x.ofScene(0, 5), 4);
-        x.prop(1, 3, 1, 5);
-        due("one alone finds it where it should", x.count(2), 0);
+        due("none still", x.ofScene(0, 5), 4);
     }
 
     private static void ofScene() {
-        promise = 4;
+        promise("ofScene", "int ofScene(int scene, int what)");
+        says("Of a SCENE: 0 KIND, 1 m, 2 CAUSES, 3 LONG, 4 CAST, 5 PROP, 6 WILL, 7 COMES, 8 SHOCK, "
+                + "9 whom it kills (-1: nobody), 10 whether it is BROKEN.");
         PlayedBack x = new PlayedBack();
         x.scene(39, 0, 7, 12);
         x.scene(23, 1, 8, 5);
@@ -207,10 +226,6 @@ public final class PromiseTests {
         x.scene(17, 0, 9, 2);
         x.scene(48, 0, 9, 0);
         x.scene(35, 0, 9, 0);
-        due("no such SCENE", x.ofScene(7, 0), BEYOND);
-        due("SCENE -1", x.ofScene(-1, 0), BEYOND);
-        due("what -1", x.ofScene(0, -1), BEYOND);
-        due("what 11", x.ofScene(0, 11), BEYOND);
         int[][] want = {
             {3, 9, 0, 7, 12, 4, 1, 1, 5, 2, 0},
             {2, 3, 1, 8, 5, 4, 1, 1, 3, -1, 1},
@@ -240,41 +255,51 @@ public final class PromiseTests {
         due("ACTOR 5", x.ofScene(0, 9), 5);
         x.set(0, 4, 1);
         due("ACTOR 0", x.ofScene(0, 9), 0);
-        due("killed by a greater number only", new Object() {
-            int ask() {
-                PlayedBack y = new PlayedBack();
-                y.scene(0, 0, 1, 1);
-                y.scene(30, 0, 1, 1);
-                return y.ofScene(0, 10) * 10 + y.ofScene(1, 10);
-            }
-        }.ask(), 0);
+        PlayedBack y = new PlayedBack();
+        y.scene(0, 0, 1, 1);
+        y.scene(30, 0, 1, 1);
+        due("killed by a greater number only", y.ofScene(0, 10), 0);
+        due("killed by itself only", y.ofScene(1, 10), 0);
+        says("BEYOND.");
+        due("no such SCENE", x.ofScene(7, 0), BEYOND);
+        due("SCENE -1", x.ofScene(-1, 0), BEYOND);
+        due("what -1", x.ofScene(0, -1), BEYOND);
+        due("what 11", x.ofScene(0, 11), BEYOND);
     }
 
     private static void become() {
-        promise = 5;
+        promise("become", "int become(int scene, int km)");
+        says("A SCENE becomes one of a KIND, with m (km): the KIND that it was.");
         PlayedBack x = new PlayedBack();
         x.scene(25, 0, 1, 3);
-        due("no such SCENE", x.become(1, 0), BEYOND);
-        due("SCENE -1", x.become(-1, 0), BEYOND);
-        due("km -1", x.become(0, -1), BEYOND);
-        due("km 70", x.become(0, 70), BEYOND);
-        due("still a JOKE", x.ofScene(0, 0), 2);
         due("it was a JOKE", x.become(0, 69), 2);
         due("a MURDER", x.ofScene(0, 0), 6);
         due("with 9", x.ofScene(0, 1), 9);
         due("that kills", x.ofScene(0, 9), 0);
         due("it was a MURDER", x.become(0, 0), 6);
         due("with 0", x.ofScene(0, 1), 0);
+        says("BEYOND.");
+        due("no such SCENE", x.become(1, 0), BEYOND);
+        due("SCENE -1", x.become(-1, 0), BEYOND);
+        due("km -1", x.become(0, -1), BEYOND);
+        due("km 70", x.become(0, 70), BEYOND);
+        due("still a SCENE", x.ofScene(0, 0), 0);
     }
 
     private static void as() {
-        promise = 6;
+        promise("as", "int as(int scene, int kind)");
+        says("A SCENE as one of a KIND: m.");
         PlayedBack x = new PlayedBack();
-        due("no such SCENE", x.as(0, 0), BEYOND);
-        x.scene(0, 0, 1, 0);
+        x.scene(57, 0, 1, 0);
+        due("a FARCE as a FARCE", x.as(0, 5), 7);
+        due("a FARCE as a JOKE", x.as(0, 2), 7);
+        due("a FARCE as a SCENE", x.as(0, 0), 7);
+        says("BEYOND.");
+        due("no such SCENE", x.as(1, 0), BEYOND);
         due("SCENE -1", x.as(-1, 0), BEYOND);
         due("kind -1", x.as(0, -1), BEYOND);
         due("kind 7", x.as(0, 7), BEYOND);
+        says("KIND: it isn't of that KIND, nor of one under it.");
         String[] under = {"0", "01", "02", "03", "014", "025", "036"};
         for (int kind = 0; kind < 7; kind++) {
             x.become(0, kind * 10 + 3 + kind);
@@ -286,12 +311,23 @@ public final class PromiseTests {
     }
 
     private static void set() {
-        promise = 7;
+        promise("set", "int set(int scene, int what, int v)");
+        says("LONG (what 3), CAST (4), WILL (6) of a SCENE becomes v: what it was.");
         PlayedBack x = new PlayedBack();
         x.scene(0, 0, 5, 9);
+        due("LONG 30", x.set(0, 3, 30), 5);
+        due("LONG 1", x.set(0, 3, 1), 30);
+        due("CAST 63", x.set(0, 4, 63), 9);
+        due("CAST 0", x.set(0, 4, 0), 63);
+        due("WILL 0", x.set(0, 6, 0), 1);
+        due("it doesn't come then", x.comes(), 0);
+        due("WILL 1", x.set(0, 6, 1), 0);
+        due("LONG then", x.ofScene(0, 3), 1);
+        due("CAST then", x.ofScene(0, 4), 0);
+        says("BEYOND.");
         due("no such SCENE", x.set(1, 3, 1), BEYOND);
         due("SCENE -1", x.set(-1, 3, 1), BEYOND);
-        for (int what = -1; what <= 8; what++) {
+        for (int what = -1; what <= 11; what++) {
             if (what != 3 && what != 4 && what != 6) {
                 due("what " + what, x.set(0, what, 1), BEYOND);
             }
@@ -302,14 +338,9 @@ public final class PromiseTests {
         due("CAST 64", x.set(0, 4, 64), BEYOND);
         due("WILL -1", x.set(0, 6, -1), BEYOND);
         due("WILL 2", x.set(0, 6, 2), BEYOND);
-        due("LONG 30", x.set(0, 3, 30), 5);
-        due("LONG 1", x.set(0, 3, 1), 30);
-        due("CAST 63", x.set(0, 4, 63), 9);
-        due("CAST 0", x.set(0, 4, 0), 63);
-        due("WILL 0", x.set(0, 6, 0), 1);
-        due("WILL 1", x.set(0, 6, 1), 0);
-        due("LONG then", x.ofScene(0, 3), 1);
-        due("CAST then", x.ofScene(0, 4), 0);
+        due("LONG still", x.ofScene(0, 3), 1);
+        due("CAST still", x.ofScene(0, 4), 0);
+        due("WILL still", x.ofScene(0, 6), 1);
     }
 
     /** COMES of a SCENE of km with n CAUSES, of which t COME. */
@@ -324,7 +355,8 @@ public final class PromiseTests {
     }
 
     private static void comes() {
-        promise = 8;
+        promise("comes", "int comes()");
+        says("Those that COME, as bits.");
         due("no SCENES", new PlayedBack().comes(), 0);
         PlayedBack x = starts(3);
         due("by WILL", x.comes(), 7);
@@ -350,24 +382,25 @@ public final class PromiseTests {
         }
     }
 
+    // ---- the order
+
     private static void given() {
-        promise = 9;
+        promise("given", "int given(int place)");
+        says("Which SCENE is given at a place.");
         PlayedBack x = starts(3);
-        due("place -1", x.given(-1), BEYOND);
-        due("place 3", x.given(3), BEYOND);
         due("place 0", x.given(0), 2);
         due("place 1", x.given(1), 1);
         due("place 2", x.given(2), 0);
+        says("BEYOND.");
+        due("place -1", x.given(-1), BEYOND);
+        due("place 3", x.given(3), BEYOND);
+        due("place 0 of none", new PlayedBack().given(0), BEYOND);
     }
 
     private static void place() {
-        promise = 10;
+        promise("place", "int place(int scene, int place)");
+        says("A SCENE goes to a place in THE ORDER, the others stay one behind the other: the place where it was.");
         PlayedBack x = starts(5);
-        due("no such SCENE", x.place(5, 0), BEYOND);
-        due("SCENE -1", x.place(-1, 0), BEYOND);
-        due("place -1", x.place(0, -1), BEYOND);
-        due("place 5", x.place(0, 5), BEYOND);
-        dueOrder("as it was", x, "43210");
         due("0 to the first", x.place(0, 0), 4);
         dueOrder("0 first", x, "04321");
         due("4 to the last", x.place(4, 4), 1);
@@ -380,13 +413,18 @@ public final class PromiseTests {
         dueOrder("0 at 3", x, "23104");
         x.scene(0, 0, 1, 0);
         dueOrder("a new one comes first", x, "523104");
+        says("BEYOND.");
+        due("no such SCENE", x.place(6, 0), BEYOND);
+        due("SCENE -1", x.place(-1, 0), BEYOND);
+        due("place -1", x.place(0, -1), BEYOND);
+        due("place 6", x.place(0, 6), BEYOND);
+        dueOrder("as it was", x, "523104");
     }
 
     private static void back() {
-        promise = 11;
+        promise("back", "int back(int v)");
+        says("BACK becomes v: what it was.");
         PlayedBack x = starts(2);
-        due("-1", x.back(-1), BEYOND);
-        due("2", x.back(2), BEYOND);
         due("1 at first", x.back(0), 1);
         due("0 then", x.back(0), 0);
         due("0 still", x.back(1), 0);
@@ -397,18 +435,21 @@ public final class PromiseTests {
         due("forwards 1 is given from 1 to 5, 0 from 0 to 1", x.count(2), 1);
         x.turn();
         due("forwards in the order in which they happen", x.count(2), 0);
+        says("BEYOND.");
+        due("-1", x.back(-1), BEYOND);
+        due("2", x.back(2), BEYOND);
+        due("0 still", x.count(4), 0);
     }
 
     private static void guess() {
-        promise = 12;
+        promise("guess", "int guess(int place)");
+        says("GUESS at the SCENE given at a place.");
         PlayedBack x = new PlayedBack();
         x.scene(25, 0, 4, 0);
         x.scene(69, 1, 20, 0);
         x.scene(16, 3, 3, 0);
         x.scene(57, 7, 3, 0);
         x.scene(33, 1, 3, 0);
-        due("place -1", x.guess(-1), BEYOND);
-        due("place 5", x.guess(5), BEYOND);
         due("DEATH of 1", x.guess(0), 15);
         due("FARCE of 3, with 7", x.guess(1), 37);
         due("LETTER of 2", x.guess(2), 20);
@@ -427,17 +468,20 @@ public final class PromiseTests {
         due("held at 0, and SHOCK beside", x.guess(2), 7);
         x.place(3, 4);
         due("none lacks: no SHOCK", x.guess(4), 0);
+        says("BEYOND.");
+        due("place -1", x.guess(-1), BEYOND);
+        due("place 5", x.guess(5), BEYOND);
+        due("place 0 of none", new PlayedBack().guess(0), BEYOND);
     }
 
     private static void understood() {
-        promise = 13;
+        promise("understood", "int understood(int scene)");
+        says("The place at which a SCENE is UNDERSTOOD.");
         PlayedBack x = new PlayedBack();
         x.scene(0, 0, 1, 0);
         x.scene(0, 1, 1, 0);
         x.scene(0, 2, 1, 0);
         x.scene(0, 0, 1, 0);
-        due("no such SCENE", x.understood(4), BEYOND);
-        due("SCENE -1", x.understood(-1), BEYOND);
         due("2 by 1 by 0", x.understood(2), 3);
         due("0 by itself", x.understood(0), 3);
         due("3 by itself", x.understood(3), 0);
@@ -448,29 +492,36 @@ public final class PromiseTests {
         x.place(0, 3);
         due("2 by 0, a CAUSE of a CAUSE", x.understood(2), 3);
         due("1 by 0", x.understood(1), 3);
+        says("BEYOND.");
+        due("no such SCENE", x.understood(4), BEYOND);
+        due("SCENE -1", x.understood(-1), BEYOND);
     }
 
     private static void flaw() {
-        promise = 14;
-        due("no SCENES", new PlayedBack().flaw(), NONE);
+        promise("flaw", "int flaw()");
+        says("FIRST FLAW.");
         PlayedBack x = new PlayedBack();
         x.scene(0, 0, 1, 1);
         x.scene(30, 0, 1, 5);
-        due("the one killed later on", x.flaw(), NONE);
         x.scene(0, 0, 1, 2);
-        due("another", x.flaw(), NONE);
         x.scene(0, 0, 1, 1);
         due("at the first place", x.flaw(), 0);
         x.place(3, 2);
         due("at place 2", x.flaw(), 2);
         x.set(3, 6, 0);
         due("one that doesn't come is broken, too", x.flaw(), 2);
+        says("NONE: there is none.");
         x.set(1, 6, 0);
         due("none is killed", x.flaw(), NONE);
+        x.set(1, 6, 1);
+        x.set(3, 4, 62);
+        due("the dead one isn't in it", x.flaw(), NONE);
+        due("no SCENES", new PlayedBack().flaw(), NONE);
     }
 
     private static void turn() {
-        promise = 15;
+        promise("turn", "int turn()");
+        says("THE ORDER is turned round: how many SCENES.");
         due("none", new PlayedBack().turn(), 0);
         for (int n = 1; n <= 7; n++) {
             PlayedBack x = starts(n);
@@ -481,52 +532,73 @@ public final class PromiseTests {
         }
     }
 
+    // ---- texts
+
     private static void feed() {
-        promise = 16;
+        promise("feed", "int feed(long word, int n)");
+        says("The n lowest bytes (1 .. 8) of a word, the lowest first, come to THE TAPE: how many there are.");
         PlayedBack x = new PlayedBack();
-        due("0", x.feed(49, 0), BEYOND);
-        due("9", x.feed(49, 9), BEYOND);
-        due("-1", x.feed(49, -1), BEYOND);
-        due("none yet", x.count(8), 0);
         due("1", x.feed('(', 1), 1);
         due("the lowest first", x.feed('c' | '+' << 8 | '1' << 16 | (long) '!' << 24, 3), 4);
-        due("8", x.feed(0x29292a322b6d2b6cL, 1), 5);
+        due("the lowest alone", x.feed(0x29292a322b6d2b6cL, 1), 5);
         due("so it reads (c+1l", x.text(0), -14);
-        long eight = 0x2b312b312b312b31L;
-        for (int i = 1; i <= 6; i++) {
-            due("eight more", x.feed(eight, 8), 8 * i);
-        }
-        due("3 more than 50", x.feed(eight, 3), FULL);
-        due("BEYOND ahead of FULL", x.feed(eight, 9), BEYOND);
-        due("50", x.feed(eight, 2), 50);
-        due("51", x.feed(eight, 1), FULL);
-        due("50 still", x.count(8), 50);
-        due("it ends too early", x.text(0), -60);
         due("all eight bytes, the highest, too", x.feed(0xff31313131313131L | 0x00ff000000000000L, 8), 8);
         due("four digits", x.text(0), -14);
         feed(x, "1");
         x.feed(0xffL, 1);
         due("a byte above 127", x.text(0), -11);
+        x.feed('m' | '+' << 8 | '2' << 16 | '*' << 24 | (long) 'l' << 32 | (long) '+' << 40 | (long) 'c' << 48, 7);
+        due("seven", x.text(0), 1);
+        due("m+2*l+c", x.law(0, 1, 20, 7), 48);
+        says("BEYOND.");
+        due("0", x.feed(49, 0), BEYOND);
+        due("9", x.feed(49, 9), BEYOND);
+        due("-1", x.feed(49, -1), BEYOND);
+        due("none came", x.count(8), 0);
+        says("FULL.");
+        long eight = 0x2b312b312b312b31L;
+        for (int i = 1; i <= 6; i++) {
+            due("eight more", x.feed(eight, 8), 8 * i);
+        }
+        due("3 more than 48", x.feed(eight, 3), FULL);
+        due("BEYOND ahead of FULL", x.feed(eight, 9), BEYOND);
+        due("50", x.feed(eight, 2), 50);
+        due("51", x.feed(eight, 1), FULL);
+        due("50 still", x.count(8), 50);
+        due("it ends too early", x.text(0), -60);
     }
 
     private static void text() {
-        promise = 17;
+        promise("text", "int text(int use)");
+        says("THE TAPE, which is empty then, is the TEXT of a USE (0, 1), in place of one ahead: 1.");
         PlayedBack x = new PlayedBack();
         x.feed('1', 1);
-        due("use -1", x.text(-1), BEYOND);
-        due("use 2", x.text(2), BEYOND);
-        due("THE TAPE stays", x.count(8), 1);
         due("use 1", x.text(1), 1);
         due("THE TAPE is empty", x.count(8), 0);
         due("it is the TEXT", x.law(1, 9, 9, 9), 1);
-        due("an empty one", x.text(1), -10);
-        due("the one ahead stays", x.law(1, 9, 9, 9), 1);
-        due("a wrong one", text(x, 1, "g+"), -12);
-        due("THE TAPE is empty, too", x.count(8), 0);
-        due("the one ahead stays, too", x.law(1, 9, 9, 9), 1);
+        due("the other USE has none", x.law(0, 3, 0, 0), 30);
         due("another", text(x, 1, "g-h"), 1);
         due("in place of the one ahead", x.law(1, 9, 2, 9), 7);
-        due("the other USE has none", x.law(0, 3, 0, 0), 30);
+        due("g, h, r", text(new PlayedBack(), 1, "g+h*r"), 1);
+        due("fifty bytes", text(new PlayedBack(), 1, "(((((g+h+r+1+2+3+4+5+6+7+8+9+1234+56+7+8+9)))))+77"), 1);
+        says("BEYOND (THE TAPE stays).");
+        x.feed('2', 1);
+        due("use -1", x.text(-1), BEYOND);
+        due("use 2", x.text(2), BEYOND);
+        due("THE TAPE stays", x.count(8), 1);
+        due("so it can be read", x.text(0), 1);
+        says("-10 less the FAULT (no ERROR; the one ahead stays; THE TAPE is empty, too).");
+        due("an empty one", x.text(1), -10);
+        due("the one ahead stays", x.law(1, 9, 2, 9), 7);
+        due("a wrong one", text(x, 1, "g+"), -12);
+        due("THE TAPE is empty, too", x.count(8), 0);
+        due("the one ahead stays, too", x.law(1, 9, 2, 9), 7);
+        due("none of them is an ERROR", x.told(1) + x.told(2) + x.told(3) + x.told(4) + x.told(5), 2);
+        due("c in CLAP", text(new PlayedBack(), 1, "c"), -10);
+        textFaults();
+    }
+
+    private static void textFaults() {
         Object[][] faults = {
             {"c l", 1}, {" c", 0}, {"1<2<3", 3}, {"1<2=3", 3}, {"(1<2)<3", -1}, {"1|2&3=4+5*6", -1},
             {"12345", 4}, {"0000", -1}, {"00000", 4}, {"c1", 1}, {"cl", 1}, {"1c", 1}, {"()", 1}, {"(c", 2}, {"(c))", 3},
@@ -540,22 +612,19 @@ public final class PromiseTests {
             int at = (Integer) fault[1];
             due("text " + fault[0], text(new PlayedBack(), 0, (String) fault[0]), at < 0 ? 1 : -10 - at);
         }
-        due("g, h, r", text(new PlayedBack(), 1, "g+h*r"), 1);
-        due("c", text(new PlayedBack(), 1, "c"), -10);
-        due("fifty bytes", text(new PlayedBack(), 1, "(((((g+h+r+1+2+3+4+5+6+7+8+9+1234+56+7+8+9)))))+77"), 1);
     }
 
     private static void law() {
-        promise = 18;
+        promise("law", "int law(int use, int a, int b, int c)");
+        says("What a USE gives with its NAMES in order as a, b, c.");
         PlayedBack x = new PlayedBack();
-        due("use -1", x.law(-1, 0, 0, 0), BEYOND);
-        due("use 2", x.law(2, 0, 0, 0), BEYOND);
         due("c*10", x.law(0, 4, 7, 9), 40);
         due("c*10 held", x.law(0, 10, 0, 0), 99);
         due("c*10 held at 0", x.law(0, -1, 0, 0), 0);
         due("100-g-h*5", x.law(1, 30, 4, 50), 50);
         due("100-g-h*5 held", x.law(1, 2000, 4, 50), -999);
         due("100-g-h*5 held above", x.law(1, -2000, 4, 50), 999);
+        due("c*10 wraps", x.law(0, 429496730, 0, 0), 4);
         due("c, l, m", worth(0, "c*9+l*3+m", 1, 2, 3), 18);
         due("g, h, r", worth(1, "g*100+h*10+r", 1, 2, 3), 123);
         due("held at 99", worth(0, "100", 0, 0, 0), 99);
@@ -564,6 +633,13 @@ public final class PromiseTests {
         due("held at -999", worth(1, "0-1000", 0, 0, 0), -999);
         due("999", worth(1, "999", 0, 0, 0), 999);
         due("-999", worth(1, "0-999", 0, 0, 0), -999);
+        laws();
+        says("BEYOND.");
+        due("use -1", x.law(-1, 0, 0, 0), BEYOND);
+        due("use 2", x.law(2, 0, 0, 0), BEYOND);
+    }
+
+    private static void laws() {
         due("left first", worth(1, "9-3-2", 0, 0, 0), 4);
         due("left first, too", worth(1, "100/10/5", 0, 0, 0), 2);
         due("* ahead of +", worth(1, "1+2*3", 0, 0, 0), 7);
@@ -596,102 +672,95 @@ public final class PromiseTests {
         due("the least int % -1", worth(1, "g%h", Integer.MIN_VALUE, -1, 0), 0);
         due("* wraps", worth(1, "g*h", 65536, 65536, 0), 0);
         due("+ wraps", worth(1, "g+1<0", Integer.MAX_VALUE, 0, 0), 1);
-        due("c*10 wraps", x.law(0, 429496730, 0, 0), 4);
         due("9999", worth(1, "9999-9990", 0, 0, 0), 9);
     }
 
+    // ---- what would be
+
+    private static String rowOf(PlayedBack x, boolean least) {
+        StringBuilder s = new StringBuilder();
+        for (int i = 0; i < x.count(0); i++) {
+            s.append(least ? x.least(i) : x.fewest(i));
+        }
+        return s.toString();
+    }
+
+    private static void dueLeast(String what, PlayedBack x, int guessed, String row) {
+        due(what, x.least(-1), guessed);
+        page.due(what, rowOf(x, true), row);
+    }
+
+    private static void dueFewest(String what, PlayedBack x, int hands, String row) {
+        due(what, x.fewest(-1), hands);
+        page.due(what, rowOf(x, false), row);
+    }
+
     private static void least() {
-        promise = 19;
-        PlayedBack empty = new PlayedBack();
-        due("none guessed", empty.least(-1), 0);
-        due("no SCENE", empty.least(0), NONE);
-        due("what -2", empty.least(-2), BEYOND);
-        due("what 7", empty.least(7), BEYOND);
+        promise("least", "int least(int what)");
+        says("LEAST GUESSED: what -1 how much, 0 .. 6 the SCENE at that place.");
         PlayedBack x = new PlayedBack();
         x.scene(0, 0, 2, 0);
         x.scene(23, 1, 9, 0);
         x.scene(30, 2, 4, 0);
-        due("causes first", x.least(-1), 0);
-        due("0", x.least(0), 0);
-        due("1", x.least(1), 1);
-        due("2", x.least(2), 2);
-        due("3", x.least(3), NONE);
+        dueLeast("CAUSES first", x, 0, "012");
         text(x, 0, "10-c*5");
-        due("what lacks, 2 less, or with the SHOCK of the DEATH as much", x.least(-1), 28);
-        due("the first as a row: 1", x.least(0), 1);
-        due("then 0", x.least(1), 0);
-        due("then 2", x.least(2), 2);
+        dueLeast("what lacks, 2 less, or with the SHOCK of the DEATH as much", x, 28, "102");
         x.become(2, 10);
-        due("without the SHOCK of a DEATH", x.least(-1), 23);
-        due("2 first", x.least(0), 2);
-        due("1 then", x.least(1), 1);
-        due("0 last", x.least(2), 0);
+        dueLeast("without the SHOCK of a DEATH", x, 23, "210");
         x.become(1, 26);
-        due("with a greater SHOCK", x.least(-1), 25);
-        due("0 first", x.least(0), 0);
-        due("2 ahead of 1", x.least(1), 2);
-        due("1 last", x.least(2), 1);
+        dueLeast("with a greater SHOCK", x, 25, "021");
         x.become(1, 10);
-        due("without any", x.least(-1), 20);
-        due("2 first", x.least(0), 2);
-        due("1 then", x.least(1), 1);
-        due("0 last", x.least(2), 0);
+        dueLeast("without any", x, 20, "210");
         dueOrder("THE ORDER is as it was", x, "210");
         due("the last of seven", starts(7).least(6), 6);
+        due("how much of none", new PlayedBack().least(-1), 0);
+        says("BEYOND.");
+        due("what -2", x.least(-2), BEYOND);
+        due("what 7", x.least(7), BEYOND);
+        due("what 7 of seven", starts(7).least(7), BEYOND);
+        says("NONE: no SCENE is given there.");
+        due("place 3 of three", x.least(3), NONE);
+        due("place 6 of three", x.least(6), NONE);
+        due("place 0 of none", new PlayedBack().least(0), NONE);
     }
 
     private static void fewest() {
-        promise = 20;
-        PlayedBack empty = new PlayedBack();
-        due("no hands", empty.fewest(-1), 0);
-        due("no SCENE", empty.fewest(0), NONE);
-        due("what -2", empty.fewest(-2), BEYOND);
-        due("what 7", empty.fewest(7), BEYOND);
+        promise("fewest", "int fewest(int what)");
+        says("FEWEST HANDS: likewise.");
         PlayedBack x = starts(4);
         x.prop(0, 1, 0, 1);
         x.prop(1, 1, 1, 2);
         x.prop(3, 1, 2, 3);
-        due("backwards", x.fewest(-1), 0);
-        due("2 has no PROP, and isn't first", x.fewest(0), 2);
-        due("3", x.fewest(1), 3);
-        due("1", x.fewest(2), 1);
-        due("0", x.fewest(3), 0);
-        due("no SCENE 4", x.fewest(4), NONE);
+        dueFewest("backwards, 2 has no PROP, and isn't first", x, 0, "2310");
         x.back(0);
-        due("forwards", x.fewest(-1), 0);
-        due("0", x.fewest(0), 0);
-        due("1", x.fewest(1), 1);
-        due("2", x.fewest(2), 2);
-        due("3", x.fewest(3), 3);
+        dueFewest("forwards", x, 0, "0123");
         x.prop(2, 1, 5, 5);
-        due("one that fits nowhere", x.fewest(-1), 1);
-        due("0", x.fewest(0), 0);
-        due("1", x.fewest(1), 1);
-        due("3", x.fewest(2), 3);
-        due("2", x.fewest(3), 2);
+        dueFewest("one that fits nowhere", x, 1, "0132");
         dueOrder("THE ORDER is as it was", x, "3210");
         due("the last of seven", starts(7).fewest(6), 6);
+        due("how many of none", new PlayedBack().fewest(-1), 0);
         PlayedBack y = starts(6);
         y.back(0);
         int[][] props = {{0, 0, 1}, {3, 4, 5}, {0, 1, 0}, {3, 5, 4}, {0, 1, 2}, {3, 0, 4}};
         for (int i = 0; i < props.length; i++) {
             y.prop(i, props[i][0], props[i][1], props[i][2]);
         }
-        due("two PROPS", y.fewest(-1), 0);
-        int[] row = {2, 0, 4, 5, 1, 3};
-        for (int i = 0; i < row.length; i++) {
-            due("two PROPS, place " + i, y.fewest(i), row[i]);
-        }
+        dueFewest("two PROPS", y, 0, "204513");
         y.prop(0, 4, 0, 1);
         due("one less", y.fewest(0), 0);
         due("the PROP of 2 and 4 is moved or not", y.fewest(-1), 1);
+        says("BEYOND.");
+        due("what -2", x.fewest(-2), BEYOND);
+        due("what 7", x.fewest(7), BEYOND);
+        says("NONE.");
+        due("place 4 of four", x.fewest(4), NONE);
+        due("place 0 of none", new PlayedBack().fewest(0), NONE);
     }
 
     private static void orders() {
-        promise = 21;
+        promise("orders", "int orders(int g)");
+        says("ORDERS.");
         PlayedBack x = new PlayedBack();
-        due("-1", x.orders(-1), BEYOND);
-        due("10000", x.orders(10000), BEYOND);
         due("one order of none", x.orders(0), 1);
         x.scene(0, 0, 1, 0);
         x.scene(0, 1, 1, 0);
@@ -710,36 +779,47 @@ public final class PromiseTests {
         due("with none lacking: a quarter", y.orders(9), 1260);
         due("with one lacking: three quarters", y.orders(10), 3780);
         due("with both", y.orders(20), 5040);
+        says("BEYOND.");
+        due("-1", x.orders(-1), BEYOND);
+        due("10000", x.orders(10000), BEYOND);
     }
 
     private static void mended() {
-        promise = 22;
+        promise("mended", "int mended(int scene, int v, int what)");
+        says("MENDED: what 0 how many, 1 the set.");
         PlayedBack x = new PlayedBack();
         x.scene(0, 0, 1, 0);
         x.scene(0, 0, 1, 0);
         x.scene(0, 3, 1, 0);
         x.scene(10, 3, 1, 0);
         x.scene(69, 3, 1, 0);
-        due("no such SCENE", x.mended(5, 0, 0), BEYOND);
-        due("SCENE -1", x.mended(-1, 0, 0), BEYOND);
-        due("v -1", x.mended(0, -1, 0), BEYOND);
-        due("v 2", x.mended(0, 2, 0), BEYOND);
-        due("what -1", x.mended(0, 0, -1), BEYOND);
-        due("what 2", x.mended(0, 0, 2), BEYOND);
         due("as it is", x.mended(2, 1, 0), 0);
         due("as it is, the set", x.mended(2, 1, 1), 0);
         due("one", x.mended(2, 0, 0), 1);
         due("the least of two", x.mended(2, 0, 1), 1);
         due("by both", x.mended(3, 0, 0), 2);
         due("both", x.mended(3, 0, 1), 3);
-        due("by none", x.mended(4, 0, 0), NONE);
-        due("by none, the set", x.mended(4, 0, 1), NONE);
         due("itself", x.mended(1, 0, 1), 2);
         due("as it is, whatever else fits", x.mended(1, 1, 1), 0);
         x.set(0, 6, 0);
         x.set(2, 6, 0);
         due("WILL of one with CAUSES isn't asked", x.mended(2, 1, 1), 1);
         due("nothing is changed", x.ofScene(0, 6), 0);
+        mendedOfMore();
+        says("BEYOND.");
+        due("no such SCENE", x.mended(5, 0, 0), BEYOND);
+        due("SCENE -1", x.mended(-1, 0, 0), BEYOND);
+        due("v -1", x.mended(0, -1, 0), BEYOND);
+        due("v 2", x.mended(0, 2, 0), BEYOND);
+        due("what -1", x.mended(0, 0, -1), BEYOND);
+        due("what 2", x.mended(0, 0, 2), BEYOND);
+        due("what 2 where there is none", x.mended(4, 0, 2), BEYOND);
+        says("NONE: by none.");
+        due("by none", x.mended(4, 0, 0), NONE);
+        due("by none, the set", x.mended(4, 0, 1), NONE);
+    }
+
+    private static void mendedOfMore() {
         PlayedBack y = starts(3);
         due("the last alone", y.mended(2, 0, 1), 4);
         y.scene(10, 7, 1, 0);
@@ -765,10 +845,9 @@ public final class PromiseTests {
     }
 
     private static void thought() {
-        promise = 23;
+        promise("thought", "int thought(int place)");
+        says("THOUGHT.");
         PlayedBack x = mystery();
-        due("place -1", x.thought(-1), BEYOND);
-        due("place 5", x.thought(5), BEYOND);
         due("at first", x.thought(0), 4);
         due("all of both", x.thought(1), 1);
         due("then", x.thought(4), 1);
@@ -778,11 +857,15 @@ public final class PromiseTests {
         x.set(0, 6, 0);
         due("not all, but any", x.thought(2), 2);
         due("none at all", new PlayedBack().thought(0), 1);
+        says("BEYOND.");
+        due("place -1", x.thought(-1), BEYOND);
+        due("place 5", x.thought(5), BEYOND);
         due("place 1 of none", new PlayedBack().thought(1), BEYOND);
     }
 
     private static void sure() {
-        promise = 24;
+        promise("sure", "int sure()");
+        says("SURE.");
         PlayedBack x = mystery();
         due("at the first SCENE", x.sure(), 1);
         x.place(2, 0);
@@ -790,25 +873,25 @@ public final class PromiseTests {
         x.set(0, 6, 0);
         due("not ahead of the starts", x.sure(), 3);
         due("none at all", new PlayedBack().sure(), 0);
-        due("by all of them", starts(7).sure(), 7);
+        says("NONE: at no place.");
+        // Behind the last place all SCENES without CAUSES were given, so there just one is left.
+        for (int n = 1; n <= 7; n++) {
+            due("by all of " + n, starts(n).sure(), n);
+            due("so that is never told", starts(n).thought(n), 1);
+        }
     }
 
     private static void explained() {
-        promise = 25;
+        promise("explained", "int explained(int scene, int set)");
+        says("EXPLAINED.");
         PlayedBack x = new PlayedBack();
         x.scene(0, 0, 1, 0);
         x.scene(0, 0, 1, 0);
         x.scene(11, 3, 1, 0);
         x.scene(0, 4, 1, 0);
-        due("no such SCENE", x.explained(4, 0), BEYOND);
-        due("SCENE -1", x.explained(-1, 0), BEYOND);
-        due("set -1", x.explained(0, -1), BEYOND);
-        due("set 16", x.explained(0, 16), BEYOND);
         due("by all", x.explained(2, 15), 0);
         due("by odd ones", x.explained(2, 3), 2);
-        due("by none", x.explained(2, 7), NONE);
         due("one without CAUSES", x.explained(0, 15), 0);
-        due("one without CAUSES can't change", x.explained(0, 14), NONE);
         x.set(1, 6, 0);
         due("of one: LETTER", x.explained(2, 13), 1);
         due("of one: SCENE", x.explained(2, 1), 0);
@@ -825,14 +908,24 @@ public final class PromiseTests {
         x.set(1, 6, 0);
         x.become(2, 35);
         due("DEATH ahead of FARCE", x.explained(2, 12), 3);
+        says("BEYOND.");
+        due("no such SCENE", x.explained(4, 0), BEYOND);
+        due("SCENE -1", x.explained(-1, 0), BEYOND);
+        due("set -1", x.explained(0, -1), BEYOND);
+        due("set 16", x.explained(0, 16), BEYOND);
+        says("NONE: by none.");
+        x.set(0, 6, 1);
+        x.set(1, 6, 1);
+        due("the last one can't lack", x.explained(2, 7), NONE);
+        due("one without CAUSES can't change", x.explained(0, 14), NONE);
     }
 
+    // ---- evenings
+
     private static void evenings() {
-        promise = 26;
+        promise("evenings", "int evenings(int n)");
+        says("n (1 to 200) EVENINGS: TAKINGS then.");
         PlayedBack x = starts(2);
-        due("0", x.evenings(0), BEYOND);
-        due("201", x.evenings(201), BEYOND);
-        due("-1", x.evenings(-1), BEYOND);
         due("one", x.evenings(1), 100);
         due("two more", x.evenings(2), 300);
         due("EVENINGS", x.count(6), 3);
@@ -843,6 +936,20 @@ public final class PromiseTests {
         due("held below", x.evenings(200), -99999);
         x.evenings(200);
         due("held still", x.count(5), -99999);
+        PlayedBack y = new PlayedBack();
+        y.scene(30, 0, 1, 1);
+        y.scene(0, 1, 1, 1);
+        y.prop(0, 0, 0, 1);
+        y.prop(1, 0, 1, 2);
+        text(y, 1, "g*9+h*20+r*100");
+        due("GUESSED, HANDS, RISES", y.evenings(1), 90);
+        y.turn();
+        due("the other way", y.evenings(1), 90 + 120);
+        says("BEYOND.");
+        due("0", x.evenings(0), BEYOND);
+        due("201", x.evenings(201), BEYOND);
+        due("-1", x.evenings(-1), BEYOND);
+        says("STATE: EVENINGS would be above 9999.");
         text(x, 1, "0");
         for (int i = 0; i < 46; i++) {
             x.evenings(200);
@@ -854,25 +961,12 @@ public final class PromiseTests {
         due("9999", x.evenings(195), -99999);
         due("EVENINGS then", x.count(6), 9999);
         due("one more", x.evenings(1), STATE);
-        due("one more by draws", x.loose(1), STATE);
-        due("0 of them", x.loose(0), BEYOND);
-        due("z as at first", x.count(11), 1);
-        PlayedBack y = new PlayedBack();
-        y.scene(30, 0, 1, 1);
-        y.scene(0, 1, 1, 1);
-        y.prop(0, 0, 0, 1);
-        y.prop(1, 0, 1, 2);
-        text(y, 1, "g*9+h*20+r*100");
-        due("GUESSED, HANDS, RISES", y.evenings(1), 90);
-        y.turn();
-        due("the other way", y.evenings(1), 90 + 120);
     }
 
     private static void loose() {
-        promise = 27;
+        promise("loose", "int loose(int n)");
+        says("n (1 to 200) EVENINGS by draws: likewise.");
         PlayedBack x = new PlayedBack();
-        due("0", x.loose(0), BEYOND);
-        due("201", x.loose(201), BEYOND);
         due("none on stage", x.loose(2), 200);
         due("no draw", x.count(11), 1);
         x.scene(0, 0, 1, 0);
@@ -897,10 +991,27 @@ public final class PromiseTests {
         }
         due("z then", y.count(11), z);
         due("EVENINGS then", y.count(6), 20);
+        says("BEYOND.");
+        due("0", x.loose(0), BEYOND);
+        due("201", x.loose(201), BEYOND);
+        due("-1", x.loose(-1), BEYOND);
+        says("STATE.");
+        x.evenings(194);
+        for (int i = 0; i < 49; i++) {
+            x.loose(200);
+        }
+        due("9999", x.count(6), 9999);
+        int last = x.count(11);
+        due("one more", x.loose(1), STATE);
+        due("BEYOND ahead of STATE", x.loose(0), BEYOND);
+        due("no draw", x.count(11), last);
     }
 
+    // ---- draws, voices
+
     private static void seed() {
-        promise = 28;
+        promise("seed", "int seed(int v)");
+        says("z becomes v: what it was (any number).");
         PlayedBack x = new PlayedBack();
         due("1 at first", x.seed(BEYOND), 1);
         due("any number", x.seed(Integer.MIN_VALUE), BEYOND);
@@ -910,16 +1021,10 @@ public final class PromiseTests {
     }
 
     private static void voice() {
-        promise = 29;
-        PlayedBack x = new PlayedBack();
-        due("no such SCENE", x.voice(0, 0, 0), BEYOND);
-        x.scene(0, 0, 1, 0);
-        x.scene(0, 0, 1, 0);
+        promise("voice", "int voice(int scene, int act, int x)");
+        says("A VOICE of a SCENE: any number.");
+        PlayedBack x = starts(2);
         x.scene(4, 0, 1, 0);
-        due("SCENE -1", x.voice(-1, 0, 0), BEYOND);
-        due("SCENE 3", x.voice(3, 0, 0), BEYOND);
-        due("act -1", x.voice(2, -1, 0), BEYOND);
-        due("act 4", x.voice(2, 4, 0), BEYOND);
         int x7 = 7;
         int n = 2;
         int m = 4;
@@ -948,8 +1053,14 @@ public final class PromiseTests {
         due("closes of a MURDER with -9", x.voice(2, 2, 10), -9 ^ 2);
         due("closes of a MURDER with -10", x.voice(2, 2, 11), -10 ^ 2);
         due("any number", x.voice(2, 0, BEYOND - 2), BEYOND);
-        due("that is no ERROR", x.told(1), 5);
+        due("that is no ERROR", x.told(1), 0);
         due("round it goes", x.voice(2, 0, Integer.MAX_VALUE), Integer.MIN_VALUE + 1);
+        says("BEYOND.");
+        due("SCENE -1", x.voice(-1, 0, 0), BEYOND);
+        due("SCENE 3", x.voice(3, 0, 0), BEYOND);
+        due("act -1", x.voice(2, -1, 0), BEYOND);
+        due("act 4", x.voice(2, 4, 0), BEYOND);
+        due("no SCENE", new PlayedBack().voice(0, 0, 0), BEYOND);
     }
 
     private static void dueVoices(PlayedBack x, int opens, int plays, int closes, int tells) {
@@ -961,10 +1072,9 @@ public final class PromiseTests {
     }
 
     private static void trace() {
-        promise = 30;
-        PlayedBack x = new PlayedBack();
-        due("none yet", x.trace(0), NONE);
-        x.scene(0, 0, 1, 0);
+        promise("trace", "int trace(int i)");
+        says("THE TRACE's i-th.");
+        PlayedBack x = starts(1);
         int[][][] want = {
             {{10}, {11, 10}, {12}, {13, 11, 10, 12}},
             {{10}, {20, 11, 10, 12}, {12}, {13, 20, 11, 10, 12, 12}},
@@ -986,24 +1096,21 @@ public final class PromiseTests {
                 due("no more", x.trace(bodies.length), NONE);
             }
         }
-        due("-1", x.trace(-1), NONE);
-        due("40", x.trace(40), NONE);
         x.voice(1, 0, 0);
         due("an ERROR leaves it", x.count(10), 9);
+        says("NONE: there is none such.");
+        due("-1", x.trace(-1), NONE);
+        due("9", x.trace(9), NONE);
+        due("40", x.trace(40), NONE);
+        due("0 ahead of any voice", new PlayedBack().trace(0), NONE);
     }
 
+    // ---- sheets
+
     private static void sheet() {
-        promise = 31;
+        promise("sheet", "int sheet(int sheet, int bits, int n)");
+        says("A SHEET has n numbers, all 0, of so many bits (8, 16, 32; 0: it is missing, n doesn't matter): 1.");
         PlayedBack x = new PlayedBack();
-        due("-1", x.sheet(-1, 8, 1), BEYOND);
-        due("4", x.sheet(4, 8, 1), BEYOND);
-        due("4 and n below 0", x.sheet(4, 8, -1), BEYOND);
-        due("bits 7", x.sheet(0, 7, 1), BEYOND);
-        due("bits 64 and n below 0", x.sheet(0, 64, -1), BEYOND);
-        due("bits -8", x.sheet(0, -8, 1), BEYOND);
-        due("n below 0", x.sheet(0, 8, -1), STATE);
-        due("n 41", x.sheet(0, 8, 41), BEYOND);
-        due("it is missing still", x.put(0, 0, 0), NONE);
         due("n 40", x.sheet(0, 8, 40), 1);
         due("its last", x.put(0, 39, 1), 1);
         due("none behind", x.put(0, 40, 1), BEYOND);
@@ -1020,53 +1127,58 @@ public final class PromiseTests {
         due("all 0 again", x.judge(1), 0);
         x.sheet(1, 32, 2);
         due("of the size", x.judge(1), 0);
+        says("BEYOND.");
+        due("-1", x.sheet(-1, 8, 1), BEYOND);
+        due("4", x.sheet(4, 8, 1), BEYOND);
+        due("bits 7", x.sheet(0, 7, 1), BEYOND);
+        due("bits 64", x.sheet(0, 64, 1), BEYOND);
+        due("bits -8", x.sheet(0, -8, 1), BEYOND);
+        due("it is missing still", x.put(0, 0, 0), NONE);
+        says("STATE: n is below 0 (ahead of BEYOND of n).");
+        due("n below 0", x.sheet(0, 8, -1), STATE);
+        due("the least n", x.sheet(0, 8, Integer.MIN_VALUE), STATE);
+        due("n 41", x.sheet(0, 8, 41), BEYOND);
+        due("SHEET 4 and n below 0", x.sheet(4, 8, -1), BEYOND);
+        due("bits 64 and n below 0", x.sheet(0, 64, -1), BEYOND);
+        due("it is missing still", x.put(0, 0, 0), NONE);
     }
 
     private static void put() {
-        promise = 32;
+        promise("put", "int put(int sheet, int i, int v)");
+        says("Number i of a SHEET becomes v (its lowest bits): 1.");
         PlayedBack x = starts(1);
+        int[] widths = {8, 16, 32};
+        for (int width : widths) {
+            x.sheet(1, width, 1);
+            due("1", x.put(1, 0, 1), 1);
+            due("it is so", x.judge(1), -1);
+            x.put(1, 0, 257);
+            due("257 in " + width, x.judge(1), width == 8 ? -1 : 0);
+            x.put(1, 0, 65537);
+            due("65537 in " + width, x.judge(1), width == 32 ? 0 : -1);
+            x.put(1, 0, -1);
+            due("-1 in " + width, x.judge(1), 0);
+        }
+        says("BEYOND: no such SHEET.");
         due("-1", x.put(-1, 0, 0), BEYOND);
         due("4", x.put(4, 0, 0), BEYOND);
+        says("NONE: it is missing.");
         due("missing, ahead of the number", x.put(0, -1, 0), NONE);
+        due("missing", x.put(0, 0, 0), NONE);
+        says("BEYOND: no such number.");
         x.sheet(0, 8, 1);
         due("number -1", x.put(0, -1, 0), BEYOND);
         due("number 1", x.put(0, 1, 0), BEYOND);
-        int[] widths = {8, 16, 32};
-        for (int width : widths) {
-            x.sheet(0, width, 1);
-            due("1", x.put(0, 0, 1), 1);
-            due("it is so", x.judge(0), -1);
-            x.put(0, 0, 257);
-            due("257 in " + width, x.judge(0), width == 8 ? -1 : 0);
-            x.put(0, 0, 65537);
-            due("65537 in " + width, x.judge(0), width == 32 ? 0 : -1);
-            x.put(0, 0, -1);
-            due("-1 in " + width, x.judge(0), 0);
-        }
     }
 
     private static void move() {
-        promise = 33;
+        promise("move", "int move(int sheet, int i, int other, int j, int n)");
+        says("n numbers of a SHEET, from number i on, come to another one (or the same), from its number j on, "
+                + "as they all were: n.");
         PlayedBack x = starts(6);
         x.sheet(0, 8, 6);
         x.sheet(1, 8, 3);
         x.sheet(2, 16, 6);
-        due("no such SHEET", x.move(-1, 0, 0, 0, 0), BEYOND);
-        due("no such SHEET 4", x.move(0, 0, 4, 0, 0), BEYOND);
-        due("no such SHEET, ahead of missing", x.move(3, 0, 4, 0, 0), BEYOND);
-        due("one is missing", x.move(3, 0, 0, 0, -1), NONE);
-        due("the other is missing", x.move(0, 0, 3, 0, -1), NONE);
-        due("unlike bits", x.move(0, 0, 2, 0, -1), KIND);
-        due("n below 0", x.move(0, 0, 1, 0, -1), BEYOND);
-        due("i below 0", x.move(0, -1, 1, 0, 0), BEYOND);
-        due("j below 0", x.move(0, 0, 1, -1, 0), BEYOND);
-        due("they don't stand here", x.move(0, 4, 1, 0, 3), BEYOND);
-        due("they don't stand there", x.move(0, 0, 1, 1, 3), BEYOND);
-        due("the greatest n", x.move(0, 1, 1, 1, Integer.MAX_VALUE), BEYOND);
-        due("the greatest i", x.move(0, Integer.MAX_VALUE, 1, 0, 1), BEYOND);
-        due("the greatest j", x.move(0, 0, 1, Integer.MAX_VALUE, 3), BEYOND);
-        due("none at the end", x.move(0, 6, 1, 3, 0), 0);
-        due("none behind the end", x.move(0, 7, 1, 3, 0), BEYOND);
         for (int i = 0; i < 6; i++) {
             x.put(0, i, i);
         }
@@ -1087,26 +1199,53 @@ public final class PromiseTests {
         x.put(0, 5, 2);
         x.order(0);
         dueOrder("from the other one", x, "345012");
+        due("none at the end", x.move(0, 6, 1, 3, 0), 0);
+        says("BEYOND: no such SHEET.");
+        due("no such SHEET", x.move(-1, 0, 0, 0, 0), BEYOND);
+        due("no such SHEET 4", x.move(0, 0, 4, 0, 0), BEYOND);
+        due("no such SHEET, ahead of missing", x.move(3, 0, 4, 0, 0), BEYOND);
+        says("NONE: one is missing.");
+        due("one is missing", x.move(3, 0, 0, 0, -1), NONE);
+        due("the other is missing", x.move(0, 0, 3, 0, -1), NONE);
+        says("KIND: they are of unlike bits.");
+        due("unlike bits", x.move(0, 0, 2, 0, -1), KIND);
+        due("unlike bits, of none", x.move(2, 0, 0, 0, 0), KIND);
+        says("BEYOND: n, i, or j is below 0, or they don't stand there.");
+        due("n below 0", x.move(0, 0, 1, 0, -1), BEYOND);
+        due("i below 0", x.move(0, -1, 1, 0, 0), BEYOND);
+        due("j below 0", x.move(0, 0, 1, -1, 0), BEYOND);
+        due("they don't stand here", x.move(0, 4, 1, 0, 3), BEYOND);
+        due("they don't stand there", x.move(0, 0, 1, 1, 3), BEYOND);
+        due("the greatest n", x.move(0, 1, 1, 1, Integer.MAX_VALUE), BEYOND);
+        due("the greatest i", x.move(0, Integer.MAX_VALUE, 1, 0, 1), BEYOND);
+        due("the greatest j", x.move(0, 0, 1, Integer.MAX_VALUE, 3), BEYOND);
+        due("none behind the end", x.move(0, 7, 1, 3, 0), BEYOND);
+        x.order(0);
+        dueOrder("nothing came of them", x, "345012");
     }
 
     private static void order() {
-        promise = 34;
+        promise("order", "int order(int sheet)");
+        says("Numbers of a SHEET become THE ORDER: how many SCENES.");
         PlayedBack x = starts(3);
-        due("-1", x.order(-1), BEYOND);
-        due("4", x.order(4), BEYOND);
-        due("missing", x.order(0), NONE);
-        int[][] wrong = {{0, 1}, {0, 1, 2, 2}, {0, 1, 1}, {0, 1, 3}, {-1, 1, 2}, {}, {0, 1, 2, 3}, {0, 1, 34}};
-        for (int[] row : wrong) {
-            lay(x, 0, row);
-            due("a row that isn't all, each once", x.order(0), STATE);
-        }
-        dueOrder("as it was", x, "210");
         lay(x, 0, new int[] {1, 256, 2});
         due("by the lowest bits", x.order(0), 3);
         dueOrder("then", x, "102");
         PlayedBack none = new PlayedBack();
         lay(none, 0, new int[0]);
         due("of none", none.order(0), 0);
+        says("BEYOND: no such SHEET.");
+        due("-1", x.order(-1), BEYOND);
+        due("4", x.order(4), BEYOND);
+        says("NONE: it is missing.");
+        due("missing", x.order(1), NONE);
+        says("STATE: they aren't all SCENES, each once.");
+        int[][] wrong = {{0, 1}, {0, 1, 2, 2}, {0, 1, 1}, {0, 1, 3}, {-1, 1, 2}, {}, {0, 1, 2, 3}, {0, 1, 34}};
+        for (int[] row : wrong) {
+            lay(x, 0, row);
+            due("a row that isn't all, each once", x.order(0), STATE);
+        }
+        dueOrder("as it was", x, "102");
         lay(none, 0, new int[] {0});
         due("one too many", none.order(0), STATE);
     }
@@ -1118,20 +1257,38 @@ public final class PromiseTests {
         }
     }
 
+    private static void dueJudged(PlayedBack x, int want, int... row) {
+        lay(x, 1, row);
+        due("a row of " + row.length, x.judge(1), want);
+    }
+
     private static void judge() {
-        promise = 35;
+        promise("judge", "int judge(int sheet)");
+        says("Numbers of a SHEET are COMES of SCENES 0, 1, ..: the first that isn't so");
         PlayedBack x = starts(3);
         x.set(1, 6, 0);
+        dueJudged(x, 1, 1, 1, 1);
+        dueJudged(x, 0, 0, 0, 1);
+        dueJudged(x, 2, 1, 0, 0);
+        dueJudged(x, 1, 1, 2, 1);
+        says("(one that lacks, or is too many, too);");
+        dueJudged(x, 2, 1, 0);
+        dueJudged(x, 0);
+        dueJudged(x, 1, 1, 1);
+        dueJudged(x, 3, 1, 0, 1, 0);
+        dueJudged(x, 3, 1, 0, 1, 1, 1);
+        says("-1: all are.");
+        dueJudged(x, -1, 1, 0, 1);
+        PlayedBack none = new PlayedBack();
+        dueJudged(none, -1);
+        says("BEYOND: no such SHEET.");
         due("-1", x.judge(-1), BEYOND);
         due("4", x.judge(4), BEYOND);
+        says("NONE: it is missing.");
         due("missing", x.judge(0), NONE);
-        int[][] rows = {{1, 0, 1}, {1, 1, 1}, {0, 0, 1}, {1, 0, 0}, {1, 0}, {1, 0, 1, 0}, {}, {1, 0, 1, 1, 1}, {1, 2, 1}, {1, 1}};
-        int[] want = {-1, 1, 0, 2, 2, 3, 0, 3, 1, 1};
-        for (int i = 0; i < rows.length; i++) {
-            lay(x, 1, rows[i]);
-            due("row " + i, x.judge(1), want[i]);
-        }
     }
+
+    // ---- images, what is told
 
     private static PlayedBack rich() {
         PlayedBack x = new PlayedBack();
@@ -1148,7 +1305,9 @@ public final class PromiseTests {
     }
 
     private static void image() {
-        promise = 36;
+        promise("image", "int image()");
+        says("All (but SHEETS, THE TRACE, what told() tells, and how often this was done) is kept as an IMAGE, in place of "
+                + "one ahead: how often that was done.");
         PlayedBack x = rich();
         due("once", x.image(), 1);
         due("twice", x.image(), 2);
@@ -1159,19 +1318,53 @@ public final class PromiseTests {
         x.back(1);
         x.restore();
         due("the later one", x.count(4), 0);
+        x.sheet(0, 8, 2);
+        x.voice(0, 0, 0);
+        x.trace(-1);
+        x.restore();
+        due("a SHEET that was made since", x.judge(0), 0);
+        due("THE TRACE since", x.count(10), 1);
+        due("what is told since", x.told(2), 1);
     }
 
     private static void restore() {
-        promise = 37;
+        promise("restore", "int restore()");
+        says("All is as the IMAGE has it, which stays: EVENINGS.");
         PlayedBack x = rich();
-        due("none", x.restore(), NONE);
-        due("an ERROR", x.told(2), 1);
         x.seed(99);
         x.image();
         int[] was = new int[12];
         for (int what = 0; what < 12; what++) {
             was[what] = x.count(what);
         }
+        changeAll(x);
+        due("EVENINGS", x.restore(), 3);
+        for (int what = 0; what < 12; what++) {
+            if (what != 10) {
+                due("count(" + what + ")", x.count(what), was[what]);
+            }
+        }
+        dueOrder("THE ORDER", x, "10");
+        int[] first = {3, 0, 0, 4, 3, 1, 1, 1, 5, 0, 0};
+        for (int what = 0; what < first.length; what++) {
+            due("ofScene(0, " + what + ")", x.ofScene(0, what), first[what]);
+        }
+        due("GUESS", x.law(0, 3, 0, 0), 27);
+        due("CLAP", x.law(1, 3, 0, 0), 7);
+        due("what waits", x.check(), 1);
+        due("THE TAPE", x.text(0), 1);
+        due("it was c", x.law(0, 3, 0, 0), 3);
+        x.evenings(1);
+        due("it stays", x.restore(), 3);
+        due("THE TAPE again", x.count(8), 1);
+        restoredProps(x);
+        says("NONE: there is none.");
+        PlayedBack y = rich();
+        due("none", y.restore(), NONE);
+        due("an ERROR", y.told(2), 1);
+    }
+
+    private static void changeAll(PlayedBack x) {
         x.scene(0, 0, 9, 0);
         x.become(0, 29);
         x.set(0, 3, 9);
@@ -1189,29 +1382,9 @@ public final class PromiseTests {
         x.tell(2);
         x.voice(0, 3, 1);
         x.sheet(0, 8, 2);
-        due("EVENINGS", x.restore(), 3);
-        for (int what = 0; what < 12; what++) {
-            if (what != 10) {
-                due("count(" + what + ")", x.count(what), was[what]);
-            }
-        }
-        due("THE TRACE isn't kept", x.count(10), 5);
-        due("SHEETS aren't kept", x.judge(0), 0);
-        due("what is told isn't kept", x.told(2), 1);
-        dueOrder("THE ORDER", x, "10");
-        int[] first = {3, 0, 0, 4, 3, 1, 1, 1, 5, 0, 0};
-        for (int what = 0; what < first.length; what++) {
-            due("ofScene(0, " + what + ")", x.ofScene(0, what), first[what]);
-        }
-        due("HANDS: where they take and leave", x.count(2), was[2]);
-        due("GUESS", x.law(0, 3, 0, 0), 27);
-        due("CLAP", x.law(1, 3, 0, 0), 7);
-        due("what waits", x.check(), 1);
-        due("THE TAPE", x.text(0), 1);
-        due("it was c", x.law(0, 3, 0, 0), 3);
-        x.evenings(1);
-        due("it stays", x.restore(), 3);
-        due("THE TAPE again", x.count(8), 1);
+    }
+
+    private static void restoredProps(PlayedBack x) {
         x.prop(1, 1, 5, 0);
         x.prop(0, 1, 0, 5);
         due("moved no more", x.count(2), 0);
@@ -1225,11 +1398,13 @@ public final class PromiseTests {
     }
 
     private static void tell() {
-        promise = 38;
+        promise("tell", "int tell(int v)");
+        says("One more number waits: how many.");
         PlayedBack x = new PlayedBack();
         for (int i = 1; i <= 20; i++) {
             due("so many", x.tell(Integer.MIN_VALUE), i);
         }
+        says("FULL: 20 wait.");
         due("21", x.tell(0), FULL);
         due("20 still", x.count(9), 20);
         x.check();
@@ -1237,36 +1412,41 @@ public final class PromiseTests {
     }
 
     private static void check() {
-        promise = 39;
+        promise("check", "int check()");
+        says("The numbers that wait (none do then) are GUESSES at places 0, 1, ..: 0;");
         PlayedBack x = new PlayedBack();
         due("none", x.check(), 0);
-        x.tell(0);
-        due("beyond the last", x.check(), 1);
-        due("none wait", x.count(9), 0);
         x.scene(0, 0, 1, 0);
         x.scene(24, 1, 1, 0);
         x.tell(14);
         due("the first is so", x.check(), 0);
+        due("none wait", x.count(9), 0);
         x.tell(14);
         x.tell(0);
         due("both are so", x.check(), 0);
+        says("else 1 and the place (from 0) of the first that isn't so");
         x.tell(14);
         x.tell(1);
         due("the second isn't", x.check(), 2);
+        due("none wait then, too", x.count(9), 0);
         x.tell(13);
         x.tell(0);
         due("the first isn't", x.check(), 1);
+        says("(beyond the last SCENE, too).");
         x.tell(14);
         x.tell(0);
         x.tell(0);
         due("too many", x.check(), 3);
+        PlayedBack none = new PlayedBack();
+        none.tell(0);
+        due("beyond the last of none", none.check(), 1);
     }
 
     private static void count() {
-        promise = 40;
+        promise("count", "int count(int what)");
+        says("0 SCENES, 1 GUESSED, 2 HANDS, 3 RISES, 4 BACK, 5 TAKINGS, 6 EVENINGS, 7 LONG of all together, "
+                + "8 bytes of THE TAPE, 9 numbers that wait, 10 BODIES in THE TRACE, 11 z (any number).");
         PlayedBack x = rich();
-        due("-1", x.count(-1), BEYOND);
-        due("12", x.count(12), BEYOND);
         due("SCENES", x.count(0), 2);
         due("GUESSED", x.count(1), 14);
         due("HANDS: 1 ends at 5, 0 begins at 1", x.count(2), 1);
@@ -1282,7 +1462,14 @@ public final class PromiseTests {
         due("z", x.count(11), 1);
         x.seed(BEYOND);
         due("z, any number", x.count(11), BEYOND);
-        due("no ERROR", x.told(1), 2);
+        due("no ERROR", x.told(1), 0);
+        countRises(x);
+        says("BEYOND.");
+        due("-1", x.count(-1), BEYOND);
+        due("12", x.count(12), BEYOND);
+    }
+
+    private static void countRises(PlayedBack x) {
         x.turn();
         due("RISES: 1 is given behind the DEATH of 0", x.count(3), 1);
         x.scene(0, 0, 1, 3);
@@ -1298,12 +1485,14 @@ public final class PromiseTests {
     }
 
     private static void told() {
-        promise = 41;
+        promise("told", "int told(int k)");
+        says("How many acts have answered an ERROR LOW - k (k 1 .. 5);");
         PlayedBack x = new PlayedBack();
-        due("0", x.told(0), BEYOND);
-        due("6", x.told(6), BEYOND);
-        due("-1", x.told(-1), BEYOND);
-        due("those are counted, too", x.told(1), 3);
+        for (int k = 1; k <= 5; k++) {
+            due("none of " + k, x.told(k), 0);
+        }
+        x.given(0);
+        due("BEYOND", x.told(1), 1);
         x.flaw();
         x.flaw();
         due("NONE", x.told(2), 2);
@@ -1317,10 +1506,23 @@ public final class PromiseTests {
         x.as(0, 1);
         due("KIND", x.told(5), 1);
         text(x, 0, "?");
-        due("a FAULT is no ERROR", x.told(1) + x.told(2), 5);
+        due("a FAULT is no ERROR", x.told(1) + x.told(2), 3);
         x.image();
         x.flaw();
         x.restore();
         due("not of the IMAGE", x.told(2), 3);
+        says("BEYOND: another k (counted, too).");
+        due("0", x.told(0), BEYOND);
+        due("6", x.told(6), BEYOND);
+        due("-1", x.told(-1), BEYOND);
+        due("those are counted, too", x.told(1), 4);
+    }
+
+    private static void notPromised() {
+        page.titled("## Not promised");
+        page.passes("How the state is held inside the object is free, as are the speed of each call, the text of toString and "
+                + "the behaviour of equals and hashCode. Use of one object from several threads at once is not promised to be "
+                + "safe. Nothing is promised beyond the answers and state changes described above, and nothing about an object "
+                + "after its 512th call.");
     }
 }

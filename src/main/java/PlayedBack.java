@@ -679,9 +679,13 @@ public final class PlayedBack {
 
         /** As they all were ahead of it, even where both are one row. */
         void overwrite(int j, Row source, int i, int n) {
-            if (source.spans(i, n) && spans(j, n)) {
+            if (source.holds(i, n) && holds(j, n)) {
                 System.arraycopy(source.items, i, items, j, n);
             }
+        }
+
+        private boolean holds(int i, int n) {
+            return spans(i, n) && size <= items.length;
         }
     }
 

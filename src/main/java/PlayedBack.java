@@ -822,7 +822,7 @@ public final class PlayedBack {
                 case SECRET:
                     return t >= 1 + m % 3;
                 case FARCE:
-                    return t % 2 == 1 ^ m % 2 == 1;
+                    return (t % 2 == 1) != (m % 2 == 1);
                 default:
                     return m > 4 || t < n;
             }
